@@ -118,10 +118,8 @@ public final class VirtualFiles {
         if (hasOpenFile(d) || diskOf(current) == d || carriesDisk(d)) {
             return BUSY;
         }
+        // The disk at the top never comes here: the current directory is on it, or on a disk somewhere above it.
         mountedOn[d] = NOT_MOUNTED;
-        if (top == d) {
-            top = NO_DISK;
-        }
         return OK;
     }
 
@@ -226,17 +224,11 @@ public final class VirtualFiles {
     }
 
     public int remove() {
-        if (top == NO_DISK) {
-            return BAD;
-        }
-        int place = placeOf(A);
+        int place = placeOfEntry();
         if (place < 0) {
             return place;
         }
         int name = nameAt(place, A);
-        if (name == NO_NAME) {
-            return NOENT;
-        }
         if (kind[named[place * NAME_SLOTS + name]] == DIRECTORY) {
             return ISDIR;
         }
@@ -248,17 +240,11 @@ public final class VirtualFiles {
     }
 
     public int prune() {
-        if (top == NO_DISK) {
-            return BAD;
-        }
-        int place = placeOf(A);
+        int place = placeOfEntry();
         if (place < 0) {
             return place;
         }
         int name = nameAt(place, A);
-        if (name == NO_NAME) {
-            return NOENT;
-        }
         int directory = named[place * NAME_SLOTS + name];
         if (kind[directory] != DIRECTORY) {
             return NOTDIR;
@@ -277,17 +263,11 @@ public final class VirtualFiles {
     }
 
     public int rename() {
-        if (top == NO_DISK) {
-            return BAD;
-        }
-        int from = placeOf(A);
+        int from = placeOfEntry();
         if (from < 0) {
             return from;
         }
         int oldName = nameAt(from, A);
-        if (oldName == NO_NAME) {
-            return NOENT;
-        }
         int to = placeOf(B);
         if (to < 0) {
             return to;
@@ -692,6 +672,17 @@ public final class VirtualFiles {
         return object >= 0 && kind[object] != DIRECTORY ? NOTDIR : object;
     }
 
+    private int placeOfEntry() {
+        if (top == NO_DISK) {
+            return BAD;
+        }
+        int place = placeOf(A);
+        if (place < 0) {
+            return place;
+        }
+        return nameAt(place, A) == NO_NAME ? NOENT : place;
+    }
+
     private int placeForNew() {
         if (top == NO_DISK) {
             return BAD;
@@ -788,9 +779,6 @@ public final class VirtualFiles {
             return READONLY;
         }
         int object = named[from * NAME_SLOTS + oldName];
-        if (kind[object] != DIRECTORY) {
-            return OK;
-        }
         if (isCovered(object)) {
             return BUSY;
         }

@@ -283,9 +283,18 @@ public final class DisksTest {
         // A copy of a copy.
         Due.is(VirtualFiles.OK, x.pack(2, 3));
         Due.is(29, x.free(3));
-        // A copy in the place of what the disk had.
+        // A copy in the place of what the disk had, dead blocks too.
         Due.is(VirtualFiles.OK, x.pack(1, 3));
         Due.is(31, x.free(3));
+        Due.is(VirtualFiles.OK, x.unmount(2));
+        Due.is(VirtualFiles.OK, x.make(2, LOG));
+        Due.is(VirtualFiles.OK, Due.at(x, 3).mount(2));
+        Due.file(x, 4, 3, 5);
+        Due.is(VirtualFiles.OK, x.unmount(2));
+        Due.is(27, x.free(2));
+        Due.is(VirtualFiles.OK, x.pack(1, 2));
+        Due.is(31, x.free(2));
+        Due.is(0, x.sync(2));
     }
 
     private static void packRefuses() {

@@ -131,6 +131,10 @@ public final class MakingTest {
         Due.is(VirtualFiles.FULL, Due.at(x, 5).open(1));
         Due.is(VirtualFiles.FULL, Due.at(x, 3, 5).directory());
         Due.is(VirtualFiles.NOENT, Due.at(x, 5).about(true, 0));
+        // Four entries need no more than one.
+        Due.is(VirtualFiles.OK, Due.at(x, 4).remove());
+        grow(x, 0, 4);
+        Due.is(0, x.free(0));
     }
 
     private static void directoryNeedsABlockOnNodes() {
@@ -151,7 +155,8 @@ public final class MakingTest {
         Due.is(0, Due.at(x, 8, 3).about(true, 1));
     }
 
-    private static void directoryNeedsABlockOnLog() {
+    /** A LOG disk without a free block, handle 0 open on file 1 that takes one of them. */
+    private static VirtualFiles fullOfDeadBlocks() {
         VirtualFiles x = Due.mounted(LOG);
         Due.is(0, Due.at(x, 1).open(1));
         for (int i = 0; i < 31; i++) {
@@ -159,6 +164,11 @@ public final class MakingTest {
             Due.is(VirtualFiles.OK, x.write(0, i));
         }
         Due.is(0, x.free(0));
+        return x;
+    }
+
+    private static void directoryNeedsABlockOnLog() {
+        VirtualFiles x = fullOfDeadBlocks();
         Due.is(VirtualFiles.FULL, Due.at(x, 2).directory());
         Due.is(30, x.sync(0));
         Due.is(VirtualFiles.OK, x.directory());
@@ -217,13 +227,7 @@ public final class MakingTest {
     }
 
     private static void linkNeedsNoBlock() {
-        VirtualFiles x = Due.mounted(LOG);
-        Due.is(0, Due.at(x, 1).open(1));
-        for (int i = 0; i < 31; i++) {
-            Due.is(VirtualFiles.OK, x.seek(0, 0));
-            Due.is(VirtualFiles.OK, x.write(0, i));
-        }
-        Due.is(0, x.free(0));
+        VirtualFiles x = fullOfDeadBlocks();
         Due.is(VirtualFiles.OK, Due.and(Due.at(x, 2), 1).link());
         Due.is(1, Due.at(x, 3).open(3));
         Due.is(VirtualFiles.OK, x.resize(1, 20));
