@@ -1,5 +1,9 @@
+import java.util.Set;
+
 /** What all tests share: answers compared with what is due, and short ways to draft paths. */
 final class Due {
+    private static final Set<String> HELPERS = Set.of("Due", "Refusal", "Looks");
+    private static final int MOST_TOLD = 20;
     private static int wrong = 0;
     private static int compared = 0;
 
@@ -9,8 +13,14 @@ final class Due {
     static void is(long want, long got) {
         compared++;
         if (want != got) {
-            wrong++;
-            System.out.println(place() + " answered " + got + ", due is " + want);
+            fail("answered " + got + ", due is " + want);
+        }
+    }
+
+    static void fail(String why) {
+        wrong++;
+        if (wrong <= MOST_TOLD) {
+            System.out.println(place() + " " + why);
         }
     }
 
@@ -24,7 +34,7 @@ final class Due {
 
     private static String place() {
         return StackWalker.getInstance().walk(frames -> frames
-                .filter(frame -> !frame.getClassName().equals("Due"))
+                .filter(frame -> !HELPERS.contains(frame.getClassName()))
                 .findFirst()
                 .map(frame -> frame.getMethodName() + " (" + frame.getFileName() + ":" + frame.getLineNumber() + ")")
                 .orElse("somewhere"));
@@ -46,8 +56,7 @@ final class Due {
     private static void draft(VirtualFiles x, boolean second, int... steps) {
         for (int s : steps) {
             if (!x.step(second, s)) {
-                wrong++;
-                System.out.println(place() + " drafts a path that cannot be");
+                fail("drafts a path that cannot be");
             }
         }
     }

@@ -1,0 +1,41 @@
+/** Disks on which few blocks, or none, are free. */
+final class Blocks implements Words {
+    private Blocks() {
+    }
+
+    /** Disk 0 with so many free blocks and no dead one: the files 1 to 6 in directory 1 and, if need be, 2 at the top take the others. */
+    static VirtualFiles left(int format, int left) {
+        VirtualFiles x = Due.mounted(format);
+        Due.directories(x, 1);
+        for (int n = 1; n <= 6; n++) {
+            take(x, left, 1, n);
+        }
+        take(x, left, 2);
+        Due.is(left, x.free(0));
+        Due.is(0, x.sync(0));
+        return x;
+    }
+
+    /** Begins a file and writes into parts of it until it takes five blocks or only so many are left. */
+    static void take(VirtualFiles x, int left, int... path) {
+        if (x.free(0) <= left) {
+            return;
+        }
+        int h = Due.at(x, path).open(1);
+        for (int b = 0; b < 5 && x.free(0) > left; b++) {
+            Due.is(OK, x.seek(h, 4 * b));
+            Due.is(OK, x.write(h, b + 1));
+        }
+        Due.is(OK, x.close(h));
+    }
+
+    /** Likewise, and handle 0 is the empty file 3 at the top, opened in this way. */
+    static VirtualFiles open(int format, int how, int left) {
+        VirtualFiles x = left(format, left);
+        Due.is(0, Due.at(x, 3).open(1));
+        Due.is(OK, x.close(0));
+        Due.is(0, x.open(how));
+        Due.is(left, x.free(0));
+        return x;
+    }
+}
