@@ -3,7 +3,7 @@ final class Blocks implements Words {
     private Blocks() {
     }
 
-    /** Disk 0 with so many free blocks and no dead one: the files 1 to 6 in directory 1 and, if need be, 2 at the top take the others. */
+    /** Disk 0 with so many free blocks and no dead one: files in directory 1 and, if need be, file 2 take the others. */
     static VirtualFiles left(int format, int left) {
         VirtualFiles x = Due.mounted(format);
         Due.directories(x, 1);

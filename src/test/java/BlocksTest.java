@@ -1,5 +1,3 @@
-import java.util.function.Supplier;
-import java.util.function.ToLongFunction;
 
 /** "Terms", on the blocks taken, the dead blocks and FULL. */
 public final class BlocksTest implements Words {
@@ -26,6 +24,7 @@ public final class BlocksTest implements Words {
         directoryWithoutABlock();
         fifthEntryOnTableTakesABlock();
         fifthEntryOnTableWithoutABlock();
+        renameOntoAnEntryGivesABlock();
         noBlockIsNeeded();
         writeTakesTheLastBlock();
         writeFarBehindTheEndOnTable();
@@ -34,10 +33,6 @@ public final class BlocksTest implements Words {
         deadBlocksFillADisk();
         resizeTakesTheLastBlock();
         Due.end();
-    }
-
-    private static void refuses(long error, Supplier<VirtualFiles> state, ToLongFunction<VirtualFiles> call) {
-        Refusal.is(error, state, call);
     }
 
     private static void write(VirtualFiles x, int h, int position, int v) {
@@ -156,7 +151,7 @@ public final class BlocksTest implements Words {
         }
     }
 
-    // Promise 19: "with 0 (which is not written ..)"; promise 17: "what lies between the old end and it is 0"
+    // Promise 19: "with 0 (which is not written"; promise 17: "what lies between the old end and it is 0"
     private static void zeroBetweenIsNotWritten() {
         for (int format = NODES; format <= LOG; format++) {
             VirtualFiles x = Due.mounted(format);
@@ -388,12 +383,12 @@ public final class BlocksTest implements Words {
     private static void directoryWithoutABlock() {
         for (int format = TABLE; format <= LOG; format++) {
             int f = format;
-            refuses(FULL, () -> Due.at(Blocks.left(f, 0), 3), VirtualFiles::directory);
+            Refusal.is(FULL, () -> Due.at(Blocks.left(f, 0), 3), VirtualFiles::directory);
         }
         VirtualFiles x = Due.at(withDead(0), 3);
         Due.is(FULL, x.directory());
         Due.is(OK, withDeadAt(1, 3).directory());
-        refuses(FULL, () -> withDeadAt(0, 3), VirtualFiles::directory);
+        Refusal.is(FULL, () -> withDeadAt(0, 3), VirtualFiles::directory);
     }
 
     /** A LOG disk with so many free blocks: its root and the file 1 take two, the others are dead. */
@@ -439,11 +434,28 @@ public final class BlocksTest implements Words {
     }
 
     private static void fifthEntryOnTableWithoutABlock() {
-        refuses(FULL, () -> Due.at(fourEntries(0), 5), VirtualFiles::directory);
-        refuses(FULL, () -> Due.at(fourEntries(1), 5), VirtualFiles::directory);
-        refuses(FULL, () -> Due.at(fourEntries(0), 5), x -> x.open(1));
-        refuses(FULL, () -> Due.at(fourEntries(0), 5), x -> x.open(3));
-        refuses(FULL, () -> Due.and(Due.at(fourEntries(0), 1, 3), 5), VirtualFiles::rename);
+        Refusal.is(FULL, () -> Due.at(fourEntries(0), 5), VirtualFiles::directory);
+        Refusal.is(FULL, () -> Due.at(fourEntries(1), 5), VirtualFiles::directory);
+        Refusal.is(FULL, () -> Due.at(fourEntries(0), 5), x -> x.open(1));
+        Refusal.is(FULL, () -> Due.at(fourEntries(0), 5), x -> x.open(3));
+        Refusal.is(FULL, () -> Due.and(Due.at(fourEntries(0), 1, 3), 5), VirtualFiles::rename);
+    }
+
+    // Promise 22: "the entry goes first"
+    private static void renameOntoAnEntryGivesABlock() {
+        VirtualFiles x = Due.mounted(TABLE);
+        Due.directories(x, 1, 2);
+        for (int n = 3; n <= 5; n++) {
+            Due.file(x, 4, n);
+        }
+        Due.is(2, Due.at(x).about(true, 3));
+        Due.is(25, x.free(0));
+        Due.is(OK, Due.and(Due.at(x, 3), 4).rename());
+        Due.is(1, Due.at(x).about(true, 3));
+        Due.is(27, x.free(0));
+        Due.is(OK, Due.and(Due.at(x, 1), 2).rename());
+        Due.is(28, x.free(0));
+        Due.names(Due.at(x), 2, 4, 5);
     }
 
     // What needs no block is not refused for want of one.
@@ -487,8 +499,8 @@ public final class BlocksTest implements Words {
                 Due.is(fits ? p + 1 : 0, x.about(true, 1));
                 Due.is(fits ? left - p / 4 - 1 : left, x.free(0));
             }
-            refuses(FULL, () -> soughtAt(blocks, 4 * blocks), x -> x.write(0, 9));
-            refuses(FULL, () -> soughtAt(blocks, 19), x -> x.write(0, 9));
+            Refusal.is(FULL, () -> soughtAt(blocks, 4 * blocks), x -> x.write(0, 9));
+            Refusal.is(FULL, () -> soughtAt(blocks, 19), x -> x.write(0, 9));
         }
         // On NODES and LOG only the part of the int itself is taken.
         Due.is(OK, soughtIn(NODES, 1, 19).write(0, 9));
@@ -527,14 +539,14 @@ public final class BlocksTest implements Words {
                 Due.is(p < 5 ? 5 : p + 1, x.about(true, 1));
                 Due.is(0, x.free(0));
             }
-            refuses(FULL, () -> fiveIntsAt(f, 8), x -> x.write(0, 9));
+            Refusal.is(FULL, () -> fiveIntsAt(f, 8), x -> x.write(0, 9));
         }
     }
 
     // "(on LOG an int written always takes a further block)"
     private static void writeOnLogAlwaysTakesAFurtherBlock() {
         for (int p : new int[] {0, 1, 3, 4, 5, 8, 19}) {
-            refuses(FULL, () -> fiveIntsAt(LOG, p), x -> x.write(0, 9));
+            Refusal.is(FULL, () -> fiveIntsAt(LOG, p), x -> x.write(0, 9));
         }
         VirtualFiles x = fiveIntsAt(LOG, 0);
         Due.is(0, x.sync(0));
@@ -552,7 +564,7 @@ public final class BlocksTest implements Words {
         Due.is(FULL, x.write(0, 1));
         Due.is(1, x.about(true, 1));
         Due.is(1, x.about(true, 3));
-        refuses(FULL, () -> withDead(0), y -> y.write(0, 1));
+        Refusal.is(FULL, () -> withDead(0), y -> y.write(0, 1));
         Due.is(30, x.sync(0));
         Due.is(OK, x.write(0, 1));
         // Making it shorter gives no block back before sync.

@@ -1,5 +1,3 @@
-import java.util.function.Supplier;
-import java.util.function.ToLongFunction;
 
 /** What promises 2 and 4 to 9 refuse, in its order, and that it changes nothing: step, make, mount, unmount, pack, sync, free. */
 public final class DiskRefusalsTest implements Words {
@@ -23,6 +21,7 @@ public final class DiskRefusalsTest implements Words {
         unmountWithOpenFile();
         unmountWithCurrentDirectory();
         unmountWithDiskMounted();
+        unmountEachDisk();
         unmountTheTop();
         packOutside();
         packOntoItself();
@@ -34,20 +33,12 @@ public final class DiskRefusalsTest implements Words {
         Due.end();
     }
 
-    private static void refuses(long error, Supplier<VirtualFiles> state, ToLongFunction<VirtualFiles> call) {
-        Refusal.is(error, state, call);
-    }
-
-    private static Supplier<VirtualFiles> crowdedAt(int... a) {
-        return () -> Due.at(World.crowded(), a);
-    }
-
     // Promise 2: "False if it is not 0..15"
     private static void stepOutside() {
         for (boolean second : new boolean[] {false, true}) {
             for (int s : new int[] {-1, 16, LEAST, GREATEST}) {
-                refuses(0, () -> Due.and(crowdedAt().get()), x -> x.step(second, s) ? 1 : 0);
-                refuses(0, () -> Due.and(crowdedAt(2).get(), 2), x -> x.step(second, s) ? 1 : 0);
+                Refusal.is(0, () -> Due.and(World.crowdedAt().get()), x -> x.step(second, s) ? 1 : 0);
+                Refusal.is(0, () -> Due.and(World.crowdedAt(2).get(), 2), x -> x.step(second, s) ? 1 : 0);
             }
             for (int s = 0; s <= 15; s++) {
                 Due.yes(new VirtualFiles().step(second, s));
@@ -58,9 +49,9 @@ public final class DiskRefusalsTest implements Words {
     // Promise 2: "0 is not the first"
     private static void stepHereNotFirst() {
         for (boolean second : new boolean[] {false, true}) {
-            refuses(0, () -> Due.and(crowdedAt(HERE).get(), HERE), x -> x.step(second, HERE) ? 1 : 0);
-            refuses(0, () -> Due.and(crowdedAt(2).get(), 3), x -> x.step(second, HERE) ? 1 : 0);
-            refuses(0, () -> Due.and(crowdedAt(2, 1, UP, 1).get(), 2, 1, UP, 2), x -> x.step(second, HERE) ? 1 : 0);
+            Refusal.is(0, () -> Due.and(World.crowdedAt(HERE).get(), HERE), x -> x.step(second, HERE) ? 1 : 0);
+            Refusal.is(0, () -> Due.and(World.crowdedAt(2).get(), 3), x -> x.step(second, HERE) ? 1 : 0);
+            Refusal.is(0, () -> Due.and(World.crowdedAt(2, 1, UP, 1).get(), 2, 1, UP, 2), x -> x.step(second, HERE) ? 1 : 0);
         }
         VirtualFiles x = Due.at(World.crowded(), 2);
         Due.yes(x.step(true, HERE));
@@ -71,8 +62,8 @@ public final class DiskRefusalsTest implements Words {
     private static void stepBehindFive() {
         for (int s = -1; s <= 16; s++) {
             int further = s;
-            refuses(0, () -> Due.and(crowdedAt(2, 1, UP, 1, UP).get(), 2), x -> x.step(false, further) ? 1 : 0);
-            refuses(0, () -> Due.and(crowdedAt(2).get(), HERE, 2, 1, UP, 2), x -> x.step(true, further) ? 1 : 0);
+            Refusal.is(0, () -> Due.and(World.crowdedAt(2, 1, UP, 1, UP).get(), 2), x -> x.step(false, further) ? 1 : 0);
+            Refusal.is(0, () -> Due.and(World.crowdedAt(2).get(), HERE, 2, 1, UP, 2), x -> x.step(true, further) ? 1 : 0);
         }
         VirtualFiles x = Due.and(Due.at(World.crowded(), 2, 1, UP, 1), 2, 1, UP, 1);
         Due.yes(x.step(false, UP));
@@ -82,13 +73,13 @@ public final class DiskRefusalsTest implements Words {
     // Promise 4: "BAD if d or format is outside", before "BUSY if it is mounted"
     private static void makeOutside() {
         for (int d : NO_DISKS) {
-            refuses(BAD, crowdedAt(2), x -> x.make(d, LOG));
-            refuses(BAD, VirtualFiles::new, x -> x.make(d, NODES));
+            Refusal.is(BAD, World.crowdedAt(2), x -> x.make(d, LOG));
+            Refusal.is(BAD, VirtualFiles::new, x -> x.make(d, NODES));
         }
         for (int format : new int[] {-1, 3, LEAST, GREATEST}) {
-            refuses(BAD, crowdedAt(2), x -> x.make(0, format));
-            refuses(BAD, crowdedAt(2), x -> x.make(1, format));
-            refuses(BAD, crowdedAt(2), x -> x.make(3, format));
+            Refusal.is(BAD, World.crowdedAt(2), x -> x.make(0, format));
+            Refusal.is(BAD, World.crowdedAt(2), x -> x.make(1, format));
+            Refusal.is(BAD, World.crowdedAt(2), x -> x.make(3, format));
         }
         for (int format = TABLE; format <= LOG; format++) {
             Due.is(OK, World.crowded().make(2, format));
@@ -100,8 +91,8 @@ public final class DiskRefusalsTest implements Words {
     private static void makeMounted() {
         for (int format = TABLE; format <= LOG; format++) {
             int wanted = format;
-            refuses(BUSY, crowdedAt(2), x -> x.make(0, wanted));
-            refuses(BUSY, crowdedAt(2), x -> x.make(1, wanted));
+            Refusal.is(BUSY, World.crowdedAt(2), x -> x.make(0, wanted));
+            Refusal.is(BUSY, World.crowdedAt(2), x -> x.make(1, wanted));
         }
         VirtualFiles x = World.crowded();
         Due.is(OK, x.unmount(1));
@@ -112,10 +103,10 @@ public final class DiskRefusalsTest implements Words {
     // Promise 5: "BAD if d is outside", before all that path A is wrong for
     private static void mountOutside() {
         for (int d : NO_DISKS) {
-            refuses(BAD, VirtualFiles::new, x -> x.mount(d));
-            refuses(BAD, crowdedAt(6), x -> x.mount(d));
-            refuses(BAD, crowdedAt(9), x -> x.mount(d));
-            refuses(BAD, crowdedAt(), x -> x.mount(d));
+            Refusal.is(BAD, VirtualFiles::new, x -> x.mount(d));
+            Refusal.is(BAD, World.crowdedAt(6), x -> x.mount(d));
+            Refusal.is(BAD, World.crowdedAt(9), x -> x.mount(d));
+            Refusal.is(BAD, World.crowdedAt(), x -> x.mount(d));
         }
     }
 
@@ -123,22 +114,22 @@ public final class DiskRefusalsTest implements Words {
     private static void mountMounted() {
         for (int d = 0; d <= 1; d++) {
             int mounted = d;
-            refuses(BUSY, crowdedAt(6), x -> x.mount(mounted));
-            refuses(BUSY, crowdedAt(9), x -> x.mount(mounted));
-            refuses(BUSY, crowdedAt(4), x -> x.mount(mounted));
-            refuses(BUSY, crowdedAt(3), x -> x.mount(mounted));
+            Refusal.is(BUSY, World.crowdedAt(6), x -> x.mount(mounted));
+            Refusal.is(BUSY, World.crowdedAt(9), x -> x.mount(mounted));
+            Refusal.is(BUSY, World.crowdedAt(4), x -> x.mount(mounted));
+            Refusal.is(BUSY, World.crowdedAt(3), x -> x.mount(mounted));
         }
     }
 
     // Promise 5: "what A's way says", and that links are followed
     private static void mountWhatTheWaySays() {
-        refuses(NOENT, crowdedAt(9), x -> x.mount(2));
-        refuses(NOENT, crowdedAt(2, 9), x -> x.mount(2));
-        refuses(NOENT, crowdedAt(2, 9, UP), x -> x.mount(2));
-        refuses(NOTDIR, crowdedAt(3, 1), x -> x.mount(2));
-        refuses(NOTDIR, crowdedAt(3, UP), x -> x.mount(2));
-        refuses(LOOP, crowdedAt(4), x -> x.mount(2));
-        refuses(LOOP, crowdedAt(4, UP), x -> x.mount(2));
+        Refusal.is(NOENT, World.crowdedAt(9), x -> x.mount(2));
+        Refusal.is(NOENT, World.crowdedAt(2, 9), x -> x.mount(2));
+        Refusal.is(NOENT, World.crowdedAt(2, 9, UP), x -> x.mount(2));
+        Refusal.is(NOTDIR, World.crowdedAt(3, 1), x -> x.mount(2));
+        Refusal.is(NOTDIR, World.crowdedAt(3, UP), x -> x.mount(2));
+        Refusal.is(LOOP, World.crowdedAt(4), x -> x.mount(2));
+        Refusal.is(LOOP, World.crowdedAt(4, UP), x -> x.mount(2));
         VirtualFiles x = Due.at(World.crowded(), 2, 3);
         Due.is(OK, x.mount(2));
         Due.is(2, Due.at(x, 2).about(true, 4));
@@ -146,27 +137,27 @@ public final class DiskRefusalsTest implements Words {
 
     // Promise 5: "NOTDIR"
     private static void mountOnNoDirectory() {
-        refuses(NOTDIR, crowdedAt(3), x -> x.mount(2));
-        refuses(NOTDIR, crowdedAt(5), x -> x.mount(2));
-        refuses(NOTDIR, crowdedAt(2, 2), x -> x.mount(2));
-        refuses(NOTDIR, crowdedAt(1, 3), x -> x.mount(2));
+        Refusal.is(NOTDIR, World.crowdedAt(3), x -> x.mount(2));
+        Refusal.is(NOTDIR, World.crowdedAt(5), x -> x.mount(2));
+        Refusal.is(NOTDIR, World.crowdedAt(2, 2), x -> x.mount(2));
+        Refusal.is(NOTDIR, World.crowdedAt(1, 3), x -> x.mount(2));
     }
 
     // Promise 5: "BUSY if it is the top"
     private static void mountOnTheTop() {
-        refuses(BUSY, crowdedAt(), x -> x.mount(2));
-        refuses(BUSY, crowdedAt(HERE), x -> x.mount(2));
-        refuses(BUSY, crowdedAt(UP), x -> x.mount(2));
-        refuses(BUSY, crowdedAt(2, UP), x -> x.mount(2));
-        refuses(BUSY, crowdedAt(1, UP), x -> x.mount(2));
+        Refusal.is(BUSY, World.crowdedAt(), x -> x.mount(2));
+        Refusal.is(BUSY, World.crowdedAt(HERE), x -> x.mount(2));
+        Refusal.is(BUSY, World.crowdedAt(UP), x -> x.mount(2));
+        Refusal.is(BUSY, World.crowdedAt(2, UP), x -> x.mount(2));
+        Refusal.is(BUSY, World.crowdedAt(1, UP), x -> x.mount(2));
     }
 
     // Promise 5: "or a mounted root"
     private static void mountOnAMountedRoot() {
-        refuses(BUSY, crowdedAt(1), x -> x.mount(2));
-        refuses(BUSY, crowdedAt(1, 2, UP), x -> x.mount(2));
-        refuses(BUSY, () -> Due.at(World.crowdedWithin(1), HERE), x -> x.mount(2));
-        refuses(BUSY, () -> Due.at(World.crowdedWithin(1, 2), HERE, UP), x -> x.mount(2));
+        Refusal.is(BUSY, World.crowdedAt(1), x -> x.mount(2));
+        Refusal.is(BUSY, World.crowdedAt(1, 2, UP), x -> x.mount(2));
+        Refusal.is(BUSY, () -> Due.at(World.crowdedWithin(1), HERE), x -> x.mount(2));
+        Refusal.is(BUSY, () -> Due.at(World.crowdedWithin(1, 2), HERE, UP), x -> x.mount(2));
     }
 
     /** The current directory is 2/1, on which disk 2 is mounted, and disk 3 is mounted on directory 2 above it. */
@@ -180,8 +171,8 @@ public final class DiskRefusalsTest implements Words {
 
     // Promise 5: "or a disk is mounted on it (only HERE and UP can lead to such a directory)"
     private static void mountOnACoveredDirectory() {
-        refuses(BUSY, () -> Due.at(covered(), HERE), x -> x.mount(1));
-        refuses(BUSY, () -> Due.at(covered(), HERE, UP), x -> x.mount(1));
+        Refusal.is(BUSY, () -> Due.at(covered(), HERE), x -> x.mount(1));
+        Refusal.is(BUSY, () -> Due.at(covered(), HERE, UP), x -> x.mount(1));
         VirtualFiles x = covered();
         Due.is(0, Due.at(x, HERE).about(true, 4));
         Due.is(0, Due.at(x, HERE, UP).about(true, 4));
@@ -206,15 +197,15 @@ public final class DiskRefusalsTest implements Words {
     // Promise 6: "BAD if d is outside or not mounted"
     private static void unmountOutsideOrNotMounted() {
         for (int d : NO_DISKS) {
-            refuses(BAD, VirtualFiles::new, x -> x.unmount(d));
-            refuses(BAD, crowdedAt(2), x -> x.unmount(d));
+            Refusal.is(BAD, VirtualFiles::new, x -> x.unmount(d));
+            Refusal.is(BAD, World.crowdedAt(2), x -> x.unmount(d));
         }
         for (int d = 0; d < 4; d++) {
             int notMounted = d;
-            refuses(BAD, VirtualFiles::new, x -> x.unmount(notMounted));
+            Refusal.is(BAD, VirtualFiles::new, x -> x.unmount(notMounted));
         }
-        refuses(BAD, crowdedAt(2), x -> x.unmount(2));
-        refuses(BAD, crowdedAt(2), x -> x.unmount(3));
+        Refusal.is(BAD, World.crowdedAt(2), x -> x.unmount(2));
+        Refusal.is(BAD, World.crowdedAt(2), x -> x.unmount(3));
         VirtualFiles x = World.crowded();
         Due.is(OK, x.unmount(1));
         Due.is(BAD, x.unmount(1));
@@ -239,13 +230,13 @@ public final class DiskRefusalsTest implements Words {
     private static void unmountWithOpenFile() {
         for (int how = 0; how <= 3; how++) {
             int wanted = how;
-            refuses(BUSY, () -> opened(wanted), x -> x.unmount(2));
+            Refusal.is(BUSY, () -> opened(wanted), x -> x.unmount(2));
             VirtualFiles x = opened(how);
             Due.is(OK, x.unmount(1));
             Due.is(OK, x.close(0));
             Due.is(OK, x.unmount(2));
         }
-        refuses(BUSY, DiskRefusalsTest::openedAndRemoved, x -> x.unmount(2));
+        Refusal.is(BUSY, DiskRefusalsTest::openedAndRemoved, x -> x.unmount(2));
         VirtualFiles x = openedAndRemoved();
         Due.is(OK, x.close(0));
         Due.is(OK, x.unmount(2));
@@ -253,8 +244,8 @@ public final class DiskRefusalsTest implements Words {
 
     // Promise 6: "the current directory is on it"
     private static void unmountWithCurrentDirectory() {
-        refuses(BUSY, () -> World.crowdedWithin(1), x -> x.unmount(1));
-        refuses(BUSY, () -> World.crowdedWithin(1, 2, 1), x -> x.unmount(1));
+        Refusal.is(BUSY, () -> World.crowdedWithin(1), x -> x.unmount(1));
+        Refusal.is(BUSY, () -> World.crowdedWithin(1, 2, 1), x -> x.unmount(1));
         VirtualFiles x = World.crowdedWithin(1, 2, 1);
         Due.is(OK, Due.at(x, 1, UP).enter());
         Due.is(OK, x.unmount(1));
@@ -269,7 +260,7 @@ public final class DiskRefusalsTest implements Words {
 
     // Promise 6: "or a disk is mounted on one of its directories"
     private static void unmountWithDiskMounted() {
-        refuses(BUSY, DiskRefusalsTest::threeDisks, x -> x.unmount(1));
+        Refusal.is(BUSY, DiskRefusalsTest::threeDisks, x -> x.unmount(1));
         VirtualFiles x = threeDisks();
         Due.is(OK, x.unmount(2));
         Due.is(OK, x.unmount(1));
@@ -277,6 +268,43 @@ public final class DiskRefusalsTest implements Words {
         VirtualFiles y = World.crowded();
         Due.is(OK, Due.at(y, 6).mount(2));
         Due.is(OK, y.unmount(1));
+    }
+
+    /** This disk at the top, the second on its directory 1, the third on the second's directory 1. */
+    private static VirtualFiles threeDisks(int first, int second, int third) {
+        VirtualFiles x = new VirtualFiles();
+        Due.is(OK, x.mount(first));
+        Due.is(OK, Due.at(x, 1).directory());
+        Due.is(OK, Due.at(x, 1).mount(second));
+        Due.is(OK, Due.at(x, 1, 1).directory());
+        Due.is(OK, Due.at(x, 1, 1).mount(third));
+        return x;
+    }
+
+    private static void unmountEachDisk() {
+        for (int i = 0; i < 4; i++) {
+            for (int j = 1; j < 4; j++) {
+                for (int k = 1; k < 4; k++) {
+                    if (j != k) {
+                        unmountFromBelow(i, (i + j) % 4, (i + k) % 4);
+                    }
+                }
+            }
+        }
+    }
+
+    private static void unmountFromBelow(int first, int second, int third) {
+        VirtualFiles x = threeDisks(first, second, third);
+        Due.is(BUSY, x.unmount(first));
+        Due.is(BUSY, x.unmount(second));
+        Due.is(OK, x.unmount(third));
+        Due.is(BUSY, x.unmount(first));
+        Due.is(OK, x.unmount(second));
+        Due.is(BUSY, x.unmount(first));
+        Due.is(first, Due.at(x, 1).about(true, 4));
+        Due.is(OK, x.mount(third));
+        Due.is(third, Due.at(x, 1).about(true, 4));
+        Due.is(OK, x.unmount(third));
     }
 
     private static VirtualFiles topAlone() {
@@ -287,19 +315,19 @@ public final class DiskRefusalsTest implements Words {
 
     // Promise 6: the disk at the top has the current directory on it, or a disk on one of its directories
     private static void unmountTheTop() {
-        refuses(BUSY, DiskRefusalsTest::topAlone, x -> x.unmount(0));
-        refuses(BUSY, () -> World.crowdedWithin(1), x -> x.unmount(0));
-        refuses(BUSY, () -> Due.mounted(TABLE), x -> x.unmount(0));
+        Refusal.is(BUSY, DiskRefusalsTest::topAlone, x -> x.unmount(0));
+        Refusal.is(BUSY, () -> World.crowdedWithin(1), x -> x.unmount(0));
+        Refusal.is(BUSY, () -> Due.mounted(TABLE), x -> x.unmount(0));
     }
 
     // Promise 7: "BAD if one is outside", before "BUSY if b is mounted, or a file of a is open"
     private static void packOutside() {
         for (int d : NO_DISKS) {
-            refuses(BAD, World::crowdedWithFiveOpen, x -> x.pack(d, 2));
-            refuses(BAD, World::crowdedWithFiveOpen, x -> x.pack(d, 1));
-            refuses(BAD, World::crowdedWithFiveOpen, x -> x.pack(0, d));
-            refuses(BAD, World::crowdedWithFiveOpen, x -> x.pack(3, d));
-            refuses(BAD, World::crowdedWithFiveOpen, x -> x.pack(d, d));
+            Refusal.is(BAD, World::crowdedWithFiveOpen, x -> x.pack(d, 2));
+            Refusal.is(BAD, World::crowdedWithFiveOpen, x -> x.pack(d, 1));
+            Refusal.is(BAD, World::crowdedWithFiveOpen, x -> x.pack(0, d));
+            Refusal.is(BAD, World::crowdedWithFiveOpen, x -> x.pack(3, d));
+            Refusal.is(BAD, World::crowdedWithFiveOpen, x -> x.pack(d, d));
         }
     }
 
@@ -307,17 +335,17 @@ public final class DiskRefusalsTest implements Words {
     private static void packOntoItself() {
         for (int d = 0; d < 4; d++) {
             int same = d;
-            refuses(BAD, World::crowdedWithFiveOpen, x -> x.pack(same, same));
-            refuses(BAD, VirtualFiles::new, x -> x.pack(same, same));
+            Refusal.is(BAD, World::crowdedWithFiveOpen, x -> x.pack(same, same));
+            Refusal.is(BAD, VirtualFiles::new, x -> x.pack(same, same));
         }
     }
 
     // Promise 7: "BUSY if b is mounted"
     private static void packOntoMounted() {
-        refuses(BUSY, crowdedAt(2), x -> x.pack(2, 0));
-        refuses(BUSY, crowdedAt(2), x -> x.pack(2, 1));
-        refuses(BUSY, crowdedAt(2), x -> x.pack(0, 1));
-        refuses(BUSY, crowdedAt(2), x -> x.pack(1, 0));
+        Refusal.is(BUSY, World.crowdedAt(2), x -> x.pack(2, 0));
+        Refusal.is(BUSY, World.crowdedAt(2), x -> x.pack(2, 1));
+        Refusal.is(BUSY, World.crowdedAt(2), x -> x.pack(0, 1));
+        Refusal.is(BUSY, World.crowdedAt(2), x -> x.pack(1, 0));
         VirtualFiles x = World.crowded();
         Due.is(OK, x.unmount(1));
         Due.is(OK, x.pack(2, 1));
@@ -328,9 +356,9 @@ public final class DiskRefusalsTest implements Words {
     private static void packOfOpenFile() {
         for (int how = 0; how <= 3; how++) {
             int wanted = how;
-            refuses(BUSY, () -> opened(wanted), x -> x.pack(2, 3));
+            Refusal.is(BUSY, () -> opened(wanted), x -> x.pack(2, 3));
         }
-        refuses(BUSY, DiskRefusalsTest::openedAndRemoved, x -> x.pack(2, 3));
+        Refusal.is(BUSY, DiskRefusalsTest::openedAndRemoved, x -> x.pack(2, 3));
         VirtualFiles x = openedAndRemoved();
         Due.is(OK, x.close(0));
         Due.is(OK, x.pack(2, 3));
@@ -348,8 +376,8 @@ public final class DiskRefusalsTest implements Words {
     // Promise 8: "BAD if d is outside"
     private static void syncOutside() {
         for (int d : NO_DISKS) {
-            refuses(BAD, () -> World.crowded(LOG), x -> x.sync(d));
-            refuses(BAD, VirtualFiles::new, x -> x.sync(d));
+            Refusal.is(BAD, () -> World.crowded(LOG), x -> x.sync(d));
+            Refusal.is(BAD, VirtualFiles::new, x -> x.sync(d));
         }
         VirtualFiles x = World.crowded(LOG);
         Due.is(3, x.sync(0));
@@ -362,8 +390,8 @@ public final class DiskRefusalsTest implements Words {
     // Promise 9: "BAD if d is outside"
     private static void freeOutside() {
         for (int d : NO_DISKS) {
-            refuses(BAD, crowdedAt(2), x -> x.free(d));
-            refuses(BAD, VirtualFiles::new, x -> x.free(d));
+            Refusal.is(BAD, World.crowdedAt(2), x -> x.free(d));
+            Refusal.is(BAD, VirtualFiles::new, x -> x.free(d));
         }
         VirtualFiles x = World.crowded();
         Due.is(25, x.free(0));

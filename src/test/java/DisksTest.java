@@ -7,6 +7,7 @@ public final class DisksTest {
         newObjectHasFourEmptyTables();
         newObjectHasNoOpenFileAndEmptyDrafts();
         makeEmptiesAndFormats();
+        makeLeavesNothingBehind();
         makeRefuses();
         mountAtTheTop();
         mountOnADirectory();
@@ -24,6 +25,7 @@ public final class DisksTest {
         Due.end();
     }
 
+    // Promise 1: "none is mounted"
     private static void newObjectHasNothingMounted() {
         VirtualFiles x = Due.and(Due.at(new VirtualFiles(), 1), 2);
         Due.is(VirtualFiles.BAD, x.enter());
@@ -50,6 +52,7 @@ public final class DisksTest {
         Due.is(VirtualFiles.BAD, x.rename());
     }
 
+    // Promise 1: "All disks are TABLE, not read-only, with an empty root"
     private static void newObjectHasFourEmptyTables() {
         for (int d = 0; d < 4; d++) {
             VirtualFiles x = new VirtualFiles();
@@ -64,6 +67,7 @@ public final class DisksTest {
         }
     }
 
+    // Promise 1: "no file is open, both drafts are empty"
     private static void newObjectHasNoOpenFileAndEmptyDrafts() {
         VirtualFiles x = new VirtualFiles();
         for (int h = 0; h < 5; h++) {
@@ -81,6 +85,7 @@ public final class DisksTest {
         Due.is(0, x.about(false, 1));
     }
 
+    // Promise 4: "Disk d becomes empty, of this format, not read-only."
     private static void makeEmptiesAndFormats() {
         VirtualFiles x = Due.mounted(TABLE);
         Due.directories(x, 1, 2);
@@ -102,6 +107,47 @@ public final class DisksTest {
         Due.is(VirtualFiles.OK, Due.at(x, 1).mount(1));
         Due.is(VirtualFiles.OK, Due.and(Due.at(x, 1, 1), 7).link());
         Due.is(VirtualFiles.OK, Due.at(x, 1, 8).directory());
+    }
+
+    /** Fills disk 1, which is mounted on directory 1, with ten objects of all kinds that its format has. */
+    private static void fillDiskOne(VirtualFiles x, int format) {
+        for (int n = 1; n <= 3; n++) {
+            Due.is(VirtualFiles.OK, Due.at(x, 1, n).directory());
+            Due.is(VirtualFiles.OK, Due.at(x, 1, n, 1).directory());
+            Due.file(x, 3, 1, n, 2);
+        }
+        if (format == NODES) {
+            Due.is(VirtualFiles.OK, Due.and(Due.at(x, 1, 4), 1, 1, 2).entry());
+        }
+    }
+
+    private static void makeLeavesNothingBehind() {
+        for (int before = TABLE; before <= LOG; before++) {
+            for (int after = TABLE; after <= LOG; after++) {
+                VirtualFiles x = Due.mounted(NODES);
+                Due.directories(x, 1);
+                Due.is(VirtualFiles.OK, x.make(1, before));
+                Due.is(VirtualFiles.OK, Due.at(x, 1).mount(1));
+                fillDiskOne(x, before);
+                Due.is(VirtualFiles.OK, x.unmount(1));
+                Due.is(VirtualFiles.OK, x.make(1, after));
+                Due.is(31, x.free(1));
+                Due.is(0, x.sync(1));
+                Due.is(VirtualFiles.OK, Due.at(x, 1).mount(1));
+                Due.names(x);
+                fillDiskOne(x, after);
+                for (int n = 1; n <= 3; n++) {
+                    Due.names(Due.at(x, 1, n), 1, 2);
+                    Due.is(1, x.about(true, 2));
+                    Due.names(Due.at(x, 1, n, 1));
+                    Due.is(1, x.about(true, 2));
+                    Due.is(3, Due.at(x, 1, n, 2).about(true, 1));
+                    Due.is(n == 1 && after == NODES ? 2 : 1, x.about(true, 2));
+                    Due.is(1, x.about(true, 3));
+                }
+                Due.is(22 - (after == LOG ? 6 : 0), x.free(1));
+            }
+        }
     }
 
     private static void makeRefuses() {
@@ -133,6 +179,7 @@ public final class DisksTest {
         Due.is(0, x.about(true, 2));
     }
 
+    // Promise 5: "else on directory A (links followed)"
     private static void mountOnADirectory() {
         VirtualFiles x = Due.mounted(NODES);
         Due.directories(x, 1);
@@ -192,6 +239,7 @@ public final class DisksTest {
         Due.is(28, x.free(0));
     }
 
+    // Promise 6: "Ends the mounting of disk d."
     private static void unmount() {
         VirtualFiles x = Due.mounted(TABLE);
         Due.directories(x, 1);
@@ -234,6 +282,7 @@ public final class DisksTest {
         Due.is(VirtualFiles.BUSY, x.unmount(0));
     }
 
+    // Promise 7: "Makes disk b a read-only copy of disk a, of its format, without dead blocks."
     private static void packCopies() {
         VirtualFiles x = Due.mounted(LOG);
         Due.directories(x, 1, 2);
@@ -331,6 +380,7 @@ public final class DisksTest {
         return x;
     }
 
+    // "and perhaps READ-ONLY"
     private static void packedDisksRefuse() {
         VirtualFiles x = packed();
         Due.is(VirtualFiles.READONLY, Due.at(x, 1, 7).directory());
@@ -381,6 +431,7 @@ public final class DisksTest {
         Due.is(VirtualFiles.BUSY, x.make(1, 0));
     }
 
+    // Promise 8: "Disk d has no dead blocks any more."
     private static void sync() {
         VirtualFiles x = Due.mounted(LOG);
         for (int d = 0; d < 4; d++) {
@@ -414,6 +465,7 @@ public final class DisksTest {
         Due.is(31, x.free(0));
     }
 
+    // Promise 9: "How many blocks of disk d are free"
     private static void free() {
         VirtualFiles x = Due.mounted(TABLE);
         Due.is(VirtualFiles.BAD, x.free(-1));

@@ -1,9 +1,10 @@
 import java.util.function.Supplier;
-import java.util.function.ToLongFunction;
+import java.util.function.ToLongBiFunction;
 
 /** What promises 14 to 19 refuse, in its order, and that it changes nothing: open, close, read, write, seek, resize. */
 public final class FileRefusalsTest implements Words {
-    private static final int[] NO_HANDLES = {-1, 5, LEAST, GREATEST};
+    // The last two are handles that threeOpen leaves closed.
+    private static final int[] NOT_OPEN = {-1, 5, LEAST, GREATEST, 2, 4};
 
     public static void main(String[] args) {
         openWithNothingMounted();
@@ -35,14 +36,6 @@ public final class FileRefusalsTest implements Words {
         Due.end();
     }
 
-    private static void refuses(long error, Supplier<VirtualFiles> state, ToLongFunction<VirtualFiles> call) {
-        Refusal.is(error, state, call);
-    }
-
-    private static Supplier<VirtualFiles> crowdedAt(int... a) {
-        return () -> Due.at(World.crowded(), a);
-    }
-
     private static Supplier<VirtualFiles> fiveOpenAt(int... a) {
         return () -> Due.at(World.crowdedWithFiveOpen(), a);
     }
@@ -52,7 +45,7 @@ public final class FileRefusalsTest implements Words {
         for (int how = 0; how <= 3; how++) {
             int wanted = how;
             for (int[] a : new int[][] {{}, {HERE}, {1}, {1, 1}}) {
-                refuses(BAD, () -> Due.at(new VirtualFiles(), a), x -> x.open(wanted));
+                Refusal.is(BAD, () -> Due.at(new VirtualFiles(), a), x -> x.open(wanted));
             }
         }
     }
@@ -61,8 +54,8 @@ public final class FileRefusalsTest implements Words {
     private static void openHowOutside() {
         for (int how : new int[] {-1, 4, LEAST, GREATEST}) {
             for (int[] a : new int[][] {{3}, {9}, {1, 9}, {3, 1}, {4}, {2}}) {
-                refuses(BAD, crowdedAt(a), x -> x.open(how));
-                refuses(BAD, fiveOpenAt(a), x -> x.open(how));
+                Refusal.is(BAD, World.crowdedAt(a), x -> x.open(how));
+                Refusal.is(BAD, fiveOpenAt(a), x -> x.open(how));
             }
         }
     }
@@ -70,19 +63,19 @@ public final class FileRefusalsTest implements Words {
     // Promise 14: a new file: "READONLY", before "BUSY if 5 are open" and FULL
     private static void openBeginsReadOnly() {
         for (int how : new int[] {1, 3}) {
-            refuses(READONLY, crowdedAt(1, 9), x -> x.open(how));
-            refuses(READONLY, crowdedAt(1, 6, 1), x -> x.open(how));
-            refuses(READONLY, fiveOpenAt(1, 9), x -> x.open(how));
-            refuses(READONLY, fiveOpenAt(1, 6, 1), x -> x.open(how));
+            Refusal.is(READONLY, World.crowdedAt(1, 9), x -> x.open(how));
+            Refusal.is(READONLY, World.crowdedAt(1, 6, 1), x -> x.open(how));
+            Refusal.is(READONLY, fiveOpenAt(1, 9), x -> x.open(how));
+            Refusal.is(READONLY, fiveOpenAt(1, 6, 1), x -> x.open(how));
         }
     }
 
     // Promise 14: a new file: "BUSY if 5 are open", before FULL
     private static void openBeginsWithFiveOpen() {
         for (int how : new int[] {1, 3}) {
-            refuses(BUSY, fiveOpenAt(9), x -> x.open(how));
-            refuses(BUSY, fiveOpenAt(6, 1), x -> x.open(how));
-            refuses(BUSY, fiveOpenAt(HERE, 6, 14), x -> x.open(how));
+            Refusal.is(BUSY, fiveOpenAt(9), x -> x.open(how));
+            Refusal.is(BUSY, fiveOpenAt(6, 1), x -> x.open(how));
+            Refusal.is(BUSY, fiveOpenAt(HERE, 6, 14), x -> x.open(how));
         }
         VirtualFiles x = World.crowdedWithFiveOpen();
         Due.is(OK, Due.at(x, 2, 2).remove());
@@ -94,21 +87,21 @@ public final class FileRefusalsTest implements Words {
     // Promise 14: a new file: "FULL"
     private static void openBeginsOnAFullDisk() {
         for (int how : new int[] {1, 3}) {
-            refuses(FULL, crowdedAt(9), x -> x.open(how));
-            refuses(FULL, crowdedAt(6, 1), x -> x.open(how));
-            refuses(FULL, () -> Due.at(World.crowdedTable(), 7), x -> x.open(how));
-            refuses(FULL, () -> Due.at(RenameRefusalsTest.withoutBlocks(), 5), x -> x.open(how));
-            refuses(FULL, () -> Due.at(RenameRefusalsTest.withoutBlocks(), 1, 14), x -> x.open(how));
+            Refusal.is(FULL, World.crowdedAt(9), x -> x.open(how));
+            Refusal.is(FULL, World.crowdedAt(6, 1), x -> x.open(how));
+            Refusal.is(FULL, () -> Due.at(World.crowdedTable(), 7), x -> x.open(how));
+            Refusal.is(FULL, () -> Due.at(RenameRefusalsTest.withoutBlocks(), 5), x -> x.open(how));
+            Refusal.is(FULL, () -> Due.at(RenameRefusalsTest.withoutBlocks(), 1, 14), x -> x.open(how));
         }
     }
 
     // Promise 14: "how is 1 or 3"; for others "what the way says"
     private static void openBeginsOnlyForOneAndThree() {
         for (int how : new int[] {0, 2}) {
-            refuses(NOENT, crowdedAt(9), x -> x.open(how));
-            refuses(NOENT, () -> Due.at(Due.mounted(TABLE), 9), x -> x.open(how));
-            refuses(NOENT, crowdedAt(1, 9), x -> x.open(how));
-            refuses(NOENT, fiveOpenAt(9), x -> x.open(how));
+            Refusal.is(NOENT, World.crowdedAt(9), x -> x.open(how));
+            Refusal.is(NOENT, () -> Due.at(Due.mounted(TABLE), 9), x -> x.open(how));
+            Refusal.is(NOENT, World.crowdedAt(1, 9), x -> x.open(how));
+            Refusal.is(NOENT, fiveOpenAt(9), x -> x.open(how));
         }
         for (int how : new int[] {1, 3}) {
             VirtualFiles x = Due.at(Due.mounted(TABLE), 9);
@@ -130,11 +123,11 @@ public final class FileRefusalsTest implements Words {
     private static void openBeginsNothingBehindALink() {
         for (int how = 0; how <= 3; how++) {
             int wanted = how;
-            refuses(NOENT, () -> Due.at(dangling(), 1), x -> x.open(wanted));
-            refuses(NOENT, () -> Due.at(dangling(), 2), x -> x.open(wanted));
-            refuses(NOENT, () -> Due.at(dangling(), HERE, 2), x -> x.open(wanted));
-            refuses(NOENT, () -> Due.at(dangling(), 1, 4), x -> x.open(wanted));
-            refuses(NOENT, () -> Due.at(dangling(), 2, UP, 4), x -> x.open(wanted));
+            Refusal.is(NOENT, () -> Due.at(dangling(), 1), x -> x.open(wanted));
+            Refusal.is(NOENT, () -> Due.at(dangling(), 2), x -> x.open(wanted));
+            Refusal.is(NOENT, () -> Due.at(dangling(), HERE, 2), x -> x.open(wanted));
+            Refusal.is(NOENT, () -> Due.at(dangling(), 1, 4), x -> x.open(wanted));
+            Refusal.is(NOENT, () -> Due.at(dangling(), 2, UP, 4), x -> x.open(wanted));
         }
         VirtualFiles x = dangling();
         Due.is(0, Due.at(x, 3, 9).open(1));
@@ -151,9 +144,9 @@ public final class FileRefusalsTest implements Words {
     private static void openBeginsNothingWithoutAName() {
         for (int how = 0; how <= 3; how++) {
             int wanted = how;
-            refuses(NOENT, () -> Due.at(dangling(), 9, UP), x -> x.open(wanted));
-            refuses(NOENT, () -> Due.at(dangling(), 3, 9, UP), x -> x.open(wanted));
-            refuses(NOENT, () -> Due.at(dangling(), 9, 9), x -> x.open(wanted));
+            Refusal.is(NOENT, () -> Due.at(dangling(), 9, UP), x -> x.open(wanted));
+            Refusal.is(NOENT, () -> Due.at(dangling(), 3, 9, UP), x -> x.open(wanted));
+            Refusal.is(NOENT, () -> Due.at(dangling(), 9, 9), x -> x.open(wanted));
         }
     }
 
@@ -161,13 +154,13 @@ public final class FileRefusalsTest implements Words {
     private static void openWhatTheWaySays() {
         for (int how = 0; how <= 3; how++) {
             int wanted = how;
-            refuses(NOENT, crowdedAt(9, 1), x -> x.open(wanted));
-            refuses(NOTDIR, crowdedAt(3, 1), x -> x.open(wanted));
-            refuses(NOTDIR, crowdedAt(3, UP), x -> x.open(wanted));
-            refuses(NOTDIR, crowdedAt(5, 1), x -> x.open(wanted));
-            refuses(NOTDIR, fiveOpenAt(1, 3, 1), x -> x.open(wanted));
-            refuses(LOOP, crowdedAt(4), x -> x.open(wanted));
-            refuses(LOOP, fiveOpenAt(4, 1), x -> x.open(wanted));
+            Refusal.is(NOENT, World.crowdedAt(9, 1), x -> x.open(wanted));
+            Refusal.is(NOTDIR, World.crowdedAt(3, 1), x -> x.open(wanted));
+            Refusal.is(NOTDIR, World.crowdedAt(3, UP), x -> x.open(wanted));
+            Refusal.is(NOTDIR, World.crowdedAt(5, 1), x -> x.open(wanted));
+            Refusal.is(NOTDIR, fiveOpenAt(1, 3, 1), x -> x.open(wanted));
+            Refusal.is(LOOP, World.crowdedAt(4), x -> x.open(wanted));
+            Refusal.is(LOOP, fiveOpenAt(4, 1), x -> x.open(wanted));
         }
     }
 
@@ -176,8 +169,8 @@ public final class FileRefusalsTest implements Words {
         for (int how = 0; how <= 3; how++) {
             int wanted = how;
             for (int[] a : new int[][] {{}, {HERE}, {UP}, {1}, {2}, {2, 3}, {1, 6}}) {
-                refuses(ISDIR, crowdedAt(a), x -> x.open(wanted));
-                refuses(ISDIR, fiveOpenAt(a), x -> x.open(wanted));
+                Refusal.is(ISDIR, World.crowdedAt(a), x -> x.open(wanted));
+                Refusal.is(ISDIR, fiveOpenAt(a), x -> x.open(wanted));
             }
         }
     }
@@ -186,23 +179,23 @@ public final class FileRefusalsTest implements Words {
     private static void openReadOnly() {
         for (int how = 1; how <= 3; how++) {
             int wanted = how;
-            refuses(READONLY, crowdedAt(1, 3), x -> x.open(wanted));
-            refuses(READONLY, fiveOpenAt(1, 3), x -> x.open(wanted));
-            refuses(READONLY, () -> Due.at(World.crowdedTable(), 1, 10), x -> x.open(wanted));
+            Refusal.is(READONLY, World.crowdedAt(1, 3), x -> x.open(wanted));
+            Refusal.is(READONLY, fiveOpenAt(1, 3), x -> x.open(wanted));
+            Refusal.is(READONLY, () -> Due.at(World.crowdedTable(), 1, 10), x -> x.open(wanted));
         }
-        Due.is(0, crowdedAt(1, 3).get().open(0));
+        Due.is(0, World.crowdedAt(1, 3).get().open(0));
         // It is the disk of the file that counts, not that of the link which leads to it.
-        Due.is(0, crowdedAt(1, 5).get().open(1));
+        Due.is(0, World.crowdedAt(1, 5).get().open(1));
     }
 
     // Promise 14: "BUSY if 5 are open"
     private static void openWithFiveOpen() {
         for (int how = 0; how <= 3; how++) {
             int wanted = how;
-            refuses(BUSY, fiveOpenAt(3), x -> x.open(wanted));
-            refuses(BUSY, fiveOpenAt(2, 2), x -> x.open(wanted));
+            Refusal.is(BUSY, fiveOpenAt(3), x -> x.open(wanted));
+            Refusal.is(BUSY, fiveOpenAt(2, 2), x -> x.open(wanted));
         }
-        refuses(BUSY, fiveOpenAt(1, 3), x -> x.open(0));
+        Refusal.is(BUSY, fiveOpenAt(1, 3), x -> x.open(0));
         for (int h = 0; h < 5; h++) {
             VirtualFiles x = fiveOpenAt(3).get();
             Due.is(OK, x.close(h));
@@ -223,17 +216,15 @@ public final class FileRefusalsTest implements Words {
         return x;
     }
 
-    private static void badIfNotOpen(ToLongFunction<VirtualFiles> call) {
-        refuses(BAD, FileRefusalsTest::threeOpen, call);
+    private static void badIfNotOpen(ToLongBiFunction<VirtualFiles, Integer> call) {
+        for (int h : NOT_OPEN) {
+            Refusal.is(BAD, FileRefusalsTest::threeOpen, x -> call.applyAsLong(x, h));
+        }
     }
 
     // Promise 15: "BAD if it is not open"
     private static void closeNotOpen() {
-        for (int h : NO_HANDLES) {
-            badIfNotOpen(x -> x.close(h));
-        }
-        badIfNotOpen(x -> x.close(2));
-        badIfNotOpen(x -> x.close(4));
+        badIfNotOpen((x, h) -> x.close(h));
         VirtualFiles x = threeOpen();
         Due.is(OK, x.close(3));
         Due.is(BAD, x.close(3));
@@ -243,11 +234,7 @@ public final class FileRefusalsTest implements Words {
 
     // Promise 16: "BAD .. if h is not open"
     private static void readNotOpen() {
-        for (int h : NO_HANDLES) {
-            badIfNotOpen(x -> x.read(h));
-        }
-        badIfNotOpen(x -> x.read(2));
-        badIfNotOpen(x -> x.read(4));
+        badIfNotOpen((x, h) -> x.read(h));
     }
 
     /** File 3 of two ints, which handle 0 has begun anew to write only. */
@@ -262,8 +249,8 @@ public final class FileRefusalsTest implements Words {
 
     // Promise 16: "or was opened to write only (2, 3)"
     private static void readToWriteOnly() {
-        refuses(BAD, FileRefusalsTest::anew, x -> x.read(0));
-        refuses(BAD, FileRefusalsTest::threeOpen, x -> x.read(3));
+        Refusal.is(BAD, FileRefusalsTest::anew, x -> x.read(0));
+        Refusal.is(BAD, FileRefusalsTest::threeOpen, x -> x.read(3));
         Due.is(3, threeOpen().read(0));
         Due.is(4, threeOpen().read(1));
     }
@@ -282,8 +269,8 @@ public final class FileRefusalsTest implements Words {
     private static void readBehindTheEnd() {
         for (int p = 5; p <= 20; p++) {
             int position = p;
-            refuses(0, () -> at(position), x -> x.read(0));
-            refuses(0, () -> at(position), x -> x.read(1));
+            Refusal.is(0, () -> at(position), x -> x.read(0));
+            Refusal.is(0, () -> at(position), x -> x.read(1));
         }
         Due.is(5, at(4).read(0));
         VirtualFiles x = at(5);
@@ -295,18 +282,14 @@ public final class FileRefusalsTest implements Words {
 
     // Promise 17: "BAD if h is not open"
     private static void writeNotOpen() {
-        for (int h : NO_HANDLES) {
-            badIfNotOpen(x -> x.write(h, 7));
-        }
-        badIfNotOpen(x -> x.write(2, 7));
-        badIfNotOpen(x -> x.write(4, 7));
+        badIfNotOpen((x, h) -> x.write(h, 7));
     }
 
     // Promise 17: "or to read only", before FULL
     private static void writeToReadOnly() {
-        refuses(BAD, FileRefusalsTest::threeOpen, x -> x.write(0, 7));
-        refuses(BAD, () -> at(20), x -> x.write(0, 7));
-        refuses(BAD, () -> Blocks.open(TABLE, 0, 0), x -> x.write(0, 7));
+        Refusal.is(BAD, FileRefusalsTest::threeOpen, x -> x.write(0, 7));
+        Refusal.is(BAD, () -> at(20), x -> x.write(0, 7));
+        Refusal.is(BAD, () -> Blocks.open(TABLE, 0, 0), x -> x.write(0, 7));
     }
 
     /** File 3 of twenty ints: handle 0 to read and write, handle 1 to write at the end. */
@@ -322,10 +305,10 @@ public final class FileRefusalsTest implements Words {
 
     // Promise 17: "FULL", and in "Terms": "or a file longer than 20"
     private static void writeBehindTwenty() {
-        refuses(FULL, () -> at(20), x -> x.write(1, 7));
-        refuses(FULL, () -> twentyLong(20), x -> x.write(0, 7));
-        refuses(FULL, () -> twentyLong(20), x -> x.write(1, 7));
-        refuses(FULL, () -> twentyLong(0), x -> x.write(1, 7));
+        Refusal.is(FULL, () -> at(20), x -> x.write(1, 7));
+        Refusal.is(FULL, () -> twentyLong(20), x -> x.write(0, 7));
+        Refusal.is(FULL, () -> twentyLong(20), x -> x.write(1, 7));
+        Refusal.is(FULL, () -> twentyLong(0), x -> x.write(1, 7));
         VirtualFiles x = at(19);
         Due.is(OK, x.write(1, 7));
         Due.is(20, Due.at(x, 3).about(true, 1));
@@ -344,7 +327,7 @@ public final class FileRefusalsTest implements Words {
             for (int how = 1; how <= 3; how++) {
                 int f = format;
                 int h = how;
-                refuses(FULL, () -> Blocks.open(f, h, 0), x -> x.write(0, 7));
+                Refusal.is(FULL, () -> Blocks.open(f, h, 0), x -> x.write(0, 7));
                 Due.is(OK, Blocks.open(f, h, 1).write(0, 7));
             }
         }
@@ -352,18 +335,14 @@ public final class FileRefusalsTest implements Words {
 
     // Promise 18: "BAD if h is not open"
     private static void seekNotOpen() {
-        for (int h : NO_HANDLES) {
-            badIfNotOpen(x -> x.seek(h, 1));
-        }
-        badIfNotOpen(x -> x.seek(2, 1));
-        badIfNotOpen(x -> x.seek(4, 1));
+        badIfNotOpen((x, h) -> x.seek(h, 1));
     }
 
     // Promise 18: "or p outside 0..20"
     private static void seekOutside() {
         for (int p : new int[] {-1, 21, LEAST, GREATEST}) {
             for (int h : new int[] {0, 1, 3}) {
-                refuses(BAD, FileRefusalsTest::threeOpen, x -> x.seek(h, p));
+                Refusal.is(BAD, FileRefusalsTest::threeOpen, x -> x.seek(h, p));
             }
         }
         for (int p = 0; p <= 20; p++) {
@@ -376,27 +355,23 @@ public final class FileRefusalsTest implements Words {
 
     // Promise 19: "BAD if h is not open"
     private static void resizeNotOpen() {
-        for (int h : NO_HANDLES) {
-            badIfNotOpen(x -> x.resize(h, 1));
-        }
-        badIfNotOpen(x -> x.resize(2, 1));
-        badIfNotOpen(x -> x.resize(4, 1));
+        badIfNotOpen((x, h) -> x.resize(h, 1));
     }
 
     // Promise 19: "or to read only", before FULL
     private static void resizeToReadOnly() {
         for (int n : new int[] {0, 4, 5, 6, 20}) {
-            refuses(BAD, FileRefusalsTest::threeOpen, x -> x.resize(0, n));
-            refuses(BAD, () -> Blocks.open(TABLE, 0, 0), x -> x.resize(0, n));
+            Refusal.is(BAD, FileRefusalsTest::threeOpen, x -> x.resize(0, n));
+            Refusal.is(BAD, () -> Blocks.open(TABLE, 0, 0), x -> x.resize(0, n));
         }
     }
 
     // Promise 19: "or n is outside 0..20", before FULL
     private static void resizeOutside() {
         for (int n : new int[] {-1, 21, LEAST, GREATEST}) {
-            refuses(BAD, FileRefusalsTest::threeOpen, x -> x.resize(1, n));
-            refuses(BAD, FileRefusalsTest::threeOpen, x -> x.resize(3, n));
-            refuses(BAD, () -> Blocks.open(TABLE, 1, 0), x -> x.resize(0, n));
+            Refusal.is(BAD, FileRefusalsTest::threeOpen, x -> x.resize(1, n));
+            Refusal.is(BAD, FileRefusalsTest::threeOpen, x -> x.resize(3, n));
+            Refusal.is(BAD, () -> Blocks.open(TABLE, 1, 0), x -> x.resize(0, n));
         }
         for (int n = 0; n <= 20; n++) {
             VirtualFiles x = threeOpen();
@@ -409,9 +384,9 @@ public final class FileRefusalsTest implements Words {
     private static void resizeWithoutABlock() {
         for (int how = 1; how <= 3; how++) {
             int h = how;
-            refuses(FULL, () -> Blocks.open(TABLE, h, 0), x -> x.resize(0, 1));
-            refuses(FULL, () -> Blocks.open(TABLE, h, 1), x -> x.resize(0, 5));
-            refuses(FULL, () -> Blocks.open(TABLE, h, 4), x -> x.resize(0, 17));
+            Refusal.is(FULL, () -> Blocks.open(TABLE, h, 0), x -> x.resize(0, 1));
+            Refusal.is(FULL, () -> Blocks.open(TABLE, h, 1), x -> x.resize(0, 5));
+            Refusal.is(FULL, () -> Blocks.open(TABLE, h, 4), x -> x.resize(0, 17));
             for (int left = 0; left <= 5; left++) {
                 Due.is(OK, Blocks.open(TABLE, h, left).resize(0, 4 * left));
             }

@@ -29,6 +29,7 @@ public final class FilesTest {
         Due.end();
     }
 
+    // Promise 14: "the least handle 0..4 that is free, at position 0"
     private static void openTakesTheLeastHandle() {
         VirtualFiles x = Due.mounted(NODES);
         for (int h = 0; h < 5; h++) {
@@ -48,6 +49,7 @@ public final class FilesTest {
         Due.is(7, x.read(4));
     }
 
+    // Promise 14: "else an empty file with that name is made there"
     private static void openBeginsFiles() {
         for (int format = TABLE; format <= LOG; format++) {
             VirtualFiles x = Due.mounted(format);
@@ -88,6 +90,7 @@ public final class FilesTest {
         Due.names(Due.at(x), 3);
     }
 
+    // Promise 14: "2 write, its size becomes 0"
     private static void openAnew() {
         for (int format = TABLE; format <= LOG; format++) {
             VirtualFiles x = Due.mounted(format);
@@ -161,6 +164,7 @@ public final class FilesTest {
         Due.is(6, Due.at(x).about(true, 1));
     }
 
+    // Promise 14: "Opens file A (followed)"
     private static void openFollowsLinks() {
         VirtualFiles x = Due.mounted(NODES);
         Due.file(x, 3, 1);
@@ -179,6 +183,7 @@ public final class FilesTest {
         Due.names(Due.at(x, 4), 6);
     }
 
+    // Promise 15: "Closes handle h."
     private static void close() {
         VirtualFiles x = Due.mounted(NODES);
         Due.is(0, Due.at(x, 1).open(1));
@@ -222,6 +227,7 @@ public final class FilesTest {
         }
     }
 
+    // Promise 16: "The int at the position, which goes on by one"
     private static void read() {
         VirtualFiles x = Due.mounted(TABLE);
         Due.is(0, Due.at(x, 1).open(1));
@@ -249,6 +255,7 @@ public final class FilesTest {
         Due.is(0, x.read(1));
     }
 
+    // Promise 16: "BAD (as a long, like all these)"
     private static void readRefuses() {
         VirtualFiles x = Due.mounted(LOG);
         Due.file(x, 3, 1);
@@ -262,6 +269,7 @@ public final class FilesTest {
         Due.is(VirtualFiles.BAD, x.read(Integer.MIN_VALUE));
     }
 
+    // Promise 17: "Writes an int at the position .. which goes on by one"
     private static void write() {
         for (int format = TABLE; format <= LOG; format++) {
             VirtualFiles x = Due.mounted(format);
@@ -282,6 +290,7 @@ public final class FilesTest {
         }
     }
 
+    // Promise 14: "3 write, each write goes to the end"; promise 17: "(how 3: at the file's end)"
     private static void writeAtTheEnd() {
         VirtualFiles x = Due.mounted(NODES);
         Due.file(x, 3, 1);
@@ -307,6 +316,7 @@ public final class FilesTest {
         Due.is(VirtualFiles.FULL, x.write(0, 9));
     }
 
+    // Promise 17: "what lies between the old end and it is 0"
     private static void writeBehindTheEnd() {
         for (int format = TABLE; format <= LOG; format++) {
             VirtualFiles x = Due.mounted(format);
@@ -443,6 +453,7 @@ public final class FilesTest {
         Due.is(0, x.free(0));
     }
 
+    // Promise 18: "The position becomes p."
     private static void seek() {
         VirtualFiles x = Due.mounted(TABLE);
         Due.file(x, 4, 1);
@@ -467,6 +478,7 @@ public final class FilesTest {
         Due.is(VirtualFiles.FULL, x.write(1, 1));
     }
 
+    // Promise 19: "The file becomes n long; if it was shorter with 0"
     private static void resize() {
         for (int format = TABLE; format <= LOG; format++) {
             VirtualFiles x = Due.mounted(format);

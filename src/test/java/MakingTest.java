@@ -19,6 +19,7 @@ public final class MakingTest {
         Due.end();
     }
 
+    // Promise 11: "Makes a directory at the place of A."
     private static void directory() {
         for (int format = TABLE; format <= LOG; format++) {
             VirtualFiles x = Due.mounted(format);
@@ -175,6 +176,7 @@ public final class MakingTest {
         Due.is(29, x.free(0));
     }
 
+    // Promise 12: "Makes a link with the steps of B at the place of A."
     private static void link() {
         for (int format = NODES; format <= LOG; format++) {
             VirtualFiles x = Due.mounted(format);
@@ -235,6 +237,7 @@ public final class MakingTest {
         Due.is(0, x.free(0));
     }
 
+    // Promise 13: "Makes a further entry for file B (not followed) at the place of A."
     private static void entry() {
         VirtualFiles x = Due.mounted(NODES);
         Due.directories(x, 1);

@@ -1,4 +1,3 @@
-import java.util.function.Supplier;
 import java.util.function.ToLongFunction;
 
 /** What promises 10 to 13, 20, 21, 23 and 24 refuse, in its order, and that it changes nothing. */
@@ -35,18 +34,6 @@ public final class NameRefusalsTest implements Words {
         Due.end();
     }
 
-    private static void refuses(long error, Supplier<VirtualFiles> state, ToLongFunction<VirtualFiles> call) {
-        Refusal.is(error, state, call);
-    }
-
-    private static Supplier<VirtualFiles> crowdedAt(int... a) {
-        return () -> Due.at(World.crowded(), a);
-    }
-
-    private static Supplier<VirtualFiles> crowdedAt(int[] a, int... b) {
-        return () -> Due.and(Due.at(World.crowded(), a), b);
-    }
-
     private static int[] a(int... steps) {
         return steps;
     }
@@ -54,27 +41,27 @@ public final class NameRefusalsTest implements Words {
     /** "BAD if nothing is mounted", whatever the drafts are. */
     private static void badWithNothingMounted(ToLongFunction<VirtualFiles> call) {
         for (int[] a : new int[][] {{}, {HERE}, {UP}, {1}, {1, 1}, {HERE, 1}}) {
-            refuses(BAD, () -> Due.and(Due.at(new VirtualFiles(), a), a), call);
+            Refusal.is(BAD, () -> Due.and(Due.at(new VirtualFiles(), a), a), call);
         }
     }
 
     /** "INVALID", before what the way says, and then "what the way to its directory says; NOTDIR if that is none". */
     private static void noPlaceOrNoWay(int[] b, ToLongFunction<VirtualFiles> call) {
         for (int[] a : NO_PLACES) {
-            refuses(INVALID, crowdedAt(a, b), call);
+            Refusal.is(INVALID, World.crowdedAt(a, b), call);
         }
-        refuses(NOENT, crowdedAt(a(9, 1), b), call);
-        refuses(NOENT, crowdedAt(a(2, 9, 1), b), call);
-        refuses(NOENT, crowdedAt(a(1, 9, 1), b), call);
-        refuses(NOTDIR, crowdedAt(a(3, 9, 1), b), call);
-        refuses(NOTDIR, crowdedAt(a(3, UP, 1), b), call);
-        refuses(NOTDIR, crowdedAt(a(5, UP, 1), b), call);
-        refuses(LOOP, crowdedAt(a(4, 1), b), call);
-        refuses(LOOP, crowdedAt(a(4, UP, 3), b), call);
-        refuses(NOTDIR, crowdedAt(a(3, 1), b), call);
-        refuses(NOTDIR, crowdedAt(a(5, 1), b), call);
-        refuses(NOTDIR, crowdedAt(a(2, 2, 1), b), call);
-        refuses(NOTDIR, crowdedAt(a(1, 3, 1), b), call);
+        Refusal.is(NOENT, World.crowdedAt(a(9, 1), b), call);
+        Refusal.is(NOENT, World.crowdedAt(a(2, 9, 1), b), call);
+        Refusal.is(NOENT, World.crowdedAt(a(1, 9, 1), b), call);
+        Refusal.is(NOTDIR, World.crowdedAt(a(3, 9, 1), b), call);
+        Refusal.is(NOTDIR, World.crowdedAt(a(3, UP, 1), b), call);
+        Refusal.is(NOTDIR, World.crowdedAt(a(5, UP, 1), b), call);
+        Refusal.is(LOOP, World.crowdedAt(a(4, 1), b), call);
+        Refusal.is(LOOP, World.crowdedAt(a(4, UP, 3), b), call);
+        Refusal.is(NOTDIR, World.crowdedAt(a(3, 1), b), call);
+        Refusal.is(NOTDIR, World.crowdedAt(a(5, 1), b), call);
+        Refusal.is(NOTDIR, World.crowdedAt(a(2, 2, 1), b), call);
+        Refusal.is(NOTDIR, World.crowdedAt(a(1, 3, 1), b), call);
     }
 
     // Promise 10: "BAD if nothing is mounted"
@@ -84,11 +71,11 @@ public final class NameRefusalsTest implements Words {
 
     // Promise 10: "what its way says", and that links are followed
     private static void enterWhatTheWaySays() {
-        refuses(NOENT, crowdedAt(9), VirtualFiles::enter);
-        refuses(NOENT, crowdedAt(2, 9, UP), VirtualFiles::enter);
-        refuses(NOTDIR, crowdedAt(3, UP), VirtualFiles::enter);
-        refuses(NOTDIR, crowdedAt(5, 1), VirtualFiles::enter);
-        refuses(LOOP, crowdedAt(4), VirtualFiles::enter);
+        Refusal.is(NOENT, World.crowdedAt(9), VirtualFiles::enter);
+        Refusal.is(NOENT, World.crowdedAt(2, 9, UP), VirtualFiles::enter);
+        Refusal.is(NOTDIR, World.crowdedAt(3, UP), VirtualFiles::enter);
+        Refusal.is(NOTDIR, World.crowdedAt(5, 1), VirtualFiles::enter);
+        Refusal.is(LOOP, World.crowdedAt(4), VirtualFiles::enter);
         VirtualFiles x = Due.at(World.crowded(), 2, 3);
         Due.is(OK, x.enter());
         Due.names(Due.at(x, HERE), 1, 2, 3);
@@ -96,10 +83,10 @@ public final class NameRefusalsTest implements Words {
 
     // Promise 10: "NOTDIR"
     private static void enterNoDirectory() {
-        refuses(NOTDIR, crowdedAt(3), VirtualFiles::enter);
-        refuses(NOTDIR, crowdedAt(5), VirtualFiles::enter);
-        refuses(NOTDIR, crowdedAt(1, 2, 2), VirtualFiles::enter);
-        refuses(NOTDIR, () -> Due.at(World.crowdedWithin(2), HERE, 2), VirtualFiles::enter);
+        Refusal.is(NOTDIR, World.crowdedAt(3), VirtualFiles::enter);
+        Refusal.is(NOTDIR, World.crowdedAt(5), VirtualFiles::enter);
+        Refusal.is(NOTDIR, World.crowdedAt(1, 2, 2), VirtualFiles::enter);
+        Refusal.is(NOTDIR, () -> Due.at(World.crowdedWithin(2), HERE, 2), VirtualFiles::enter);
     }
 
     /** What directory and link refuse alike, each error with those named after it true as well. */
@@ -108,30 +95,31 @@ public final class NameRefusalsTest implements Words {
         noPlaceOrNoWay(a(3), call);
         for (int n = 1; n <= 6; n++) {
             // "EXISTS if it has an equal name", though the disk be read-only or full.
-            refuses(EXISTS, crowdedAt(a(n), 3), call);
-            refuses(EXISTS, crowdedAt(a(1, n), 3), call);
+            Refusal.is(EXISTS, World.crowdedAt(a(n), 3), call);
+            Refusal.is(EXISTS, World.crowdedAt(a(1, n), 3), call);
         }
         // "READONLY", though the disk be full.
-        refuses(READONLY, crowdedAt(a(1, 9), 3), call);
-        refuses(READONLY, crowdedAt(a(1, 2, 9), 3), call);
-        refuses(READONLY, crowdedAt(a(1, 6, 1), 3), call);
+        Refusal.is(READONLY, World.crowdedAt(a(1, 9), 3), call);
+        Refusal.is(READONLY, World.crowdedAt(a(1, 2, 9), 3), call);
+        Refusal.is(READONLY, World.crowdedAt(a(1, 6, 1), 3), call);
     }
 
-    // Promise 11: "BAD if nothing is mounted; INVALID; what the way to its directory says; NOTDIR if that is none; EXISTS .. READONLY"
+    // Promise 11: "BAD if nothing is mounted; INVALID; what the way to its directory says; NOTDIR if that is none",
+    // "EXISTS if it has an equal name; READONLY"
     private static void directoryRefusals() {
         makingRefusals(VirtualFiles::directory);
-        refuses(EXISTS, () -> Due.at(World.crowdedTable(), 8), VirtualFiles::directory);
-        refuses(EXISTS, () -> Due.at(World.crowdedTable(), 1, 13), VirtualFiles::directory);
-        refuses(READONLY, () -> Due.at(World.crowdedTable(), 1, 7), VirtualFiles::directory);
+        Refusal.is(EXISTS, () -> Due.at(World.crowdedTable(), 8), VirtualFiles::directory);
+        Refusal.is(EXISTS, () -> Due.at(World.crowdedTable(), 1, 13), VirtualFiles::directory);
+        Refusal.is(READONLY, () -> Due.at(World.crowdedTable(), 1, 7), VirtualFiles::directory);
     }
 
     // Promise 11: "FULL"
     private static void directoryOnAFullDisk() {
-        refuses(FULL, crowdedAt(9), VirtualFiles::directory);
-        refuses(FULL, crowdedAt(2, 9), VirtualFiles::directory);
-        refuses(FULL, crowdedAt(6, 1), VirtualFiles::directory);
-        refuses(FULL, () -> Due.at(World.crowdedTable(), 7), VirtualFiles::directory);
-        refuses(FULL, () -> Due.at(World.crowdedTable(), 6, 7), VirtualFiles::directory);
+        Refusal.is(FULL, World.crowdedAt(9), VirtualFiles::directory);
+        Refusal.is(FULL, World.crowdedAt(2, 9), VirtualFiles::directory);
+        Refusal.is(FULL, World.crowdedAt(6, 1), VirtualFiles::directory);
+        Refusal.is(FULL, () -> Due.at(World.crowdedTable(), 7), VirtualFiles::directory);
+        Refusal.is(FULL, () -> Due.at(World.crowdedTable(), 6, 7), VirtualFiles::directory);
     }
 
     // Promise 12: "Likewise"
@@ -141,21 +129,21 @@ public final class NameRefusalsTest implements Words {
 
     // Promise 12: "but UNSUPPORTED on TABLE before FULL", and after all else
     private static void linkOnTable() {
-        refuses(UNSUPPORTED, () -> Due.and(Due.at(World.crowdedTable(), 7), 3), VirtualFiles::link);
-        refuses(UNSUPPORTED, () -> Due.and(Due.at(World.crowdedTable(), 6, 7), 3), VirtualFiles::link);
-        refuses(UNSUPPORTED, () -> Due.at(Due.mounted(TABLE), 7), VirtualFiles::link);
-        refuses(INVALID, () -> Due.at(World.crowdedTable(), 6, UP), VirtualFiles::link);
-        refuses(NOENT, () -> Due.at(World.crowdedTable(), 7, 1), VirtualFiles::link);
-        refuses(NOTDIR, () -> Due.at(World.crowdedTable(), 3, 1), VirtualFiles::link);
-        refuses(EXISTS, () -> Due.at(World.crowdedTable(), 10), VirtualFiles::link);
-        refuses(READONLY, () -> Due.at(World.crowdedTable(), 1, 7), VirtualFiles::link);
+        Refusal.is(UNSUPPORTED, () -> Due.and(Due.at(World.crowdedTable(), 7), 3), VirtualFiles::link);
+        Refusal.is(UNSUPPORTED, () -> Due.and(Due.at(World.crowdedTable(), 6, 7), 3), VirtualFiles::link);
+        Refusal.is(UNSUPPORTED, () -> Due.at(Due.mounted(TABLE), 7), VirtualFiles::link);
+        Refusal.is(INVALID, () -> Due.at(World.crowdedTable(), 6, UP), VirtualFiles::link);
+        Refusal.is(NOENT, () -> Due.at(World.crowdedTable(), 7, 1), VirtualFiles::link);
+        Refusal.is(NOTDIR, () -> Due.at(World.crowdedTable(), 3, 1), VirtualFiles::link);
+        Refusal.is(EXISTS, () -> Due.at(World.crowdedTable(), 10), VirtualFiles::link);
+        Refusal.is(READONLY, () -> Due.at(World.crowdedTable(), 1, 7), VirtualFiles::link);
     }
 
     // Promise 12: "FULL"
     private static void linkOnAFullDisk() {
-        refuses(FULL, crowdedAt(a(9), 3), VirtualFiles::link);
-        refuses(FULL, crowdedAt(a(2, 9), 3), VirtualFiles::link);
-        refuses(FULL, () -> Due.and(Due.at(World.crowded(LOG), 6, 1), 3), VirtualFiles::link);
+        Refusal.is(FULL, World.crowdedAt(a(9), 3), VirtualFiles::link);
+        Refusal.is(FULL, World.crowdedAt(a(2, 9), 3), VirtualFiles::link);
+        Refusal.is(FULL, () -> Due.and(Due.at(World.crowded(LOG), 6, 1), 3), VirtualFiles::link);
     }
 
     // Promise 13: "BAD if nothing is mounted"
@@ -166,23 +154,23 @@ public final class NameRefusalsTest implements Words {
     // Promise 13: "what B's way says", before what is wrong with A; B's last link is not followed
     private static void entryWhatTheWayOfBSays() {
         for (int[] a : new int[][] {{}, {9, 9}, {3}, {9}}) {
-            refuses(NOENT, crowdedAt(a, 9), VirtualFiles::entry);
-            refuses(NOENT, crowdedAt(a, 2, 9, UP), VirtualFiles::entry);
-            refuses(NOTDIR, crowdedAt(a, 3, UP), VirtualFiles::entry);
-            refuses(NOTDIR, crowdedAt(a, 5, 3), VirtualFiles::entry);
-            refuses(LOOP, crowdedAt(a, 4, 3), VirtualFiles::entry);
+            Refusal.is(NOENT, World.crowdedAt(a, 9), VirtualFiles::entry);
+            Refusal.is(NOENT, World.crowdedAt(a, 2, 9, UP), VirtualFiles::entry);
+            Refusal.is(NOTDIR, World.crowdedAt(a, 3, UP), VirtualFiles::entry);
+            Refusal.is(NOTDIR, World.crowdedAt(a, 5, 3), VirtualFiles::entry);
+            Refusal.is(LOOP, World.crowdedAt(a, 4, 3), VirtualFiles::entry);
         }
-        refuses(UNSUPPORTED, crowdedAt(a(9), 4), VirtualFiles::entry);
+        Refusal.is(UNSUPPORTED, World.crowdedAt(a(9), 4), VirtualFiles::entry);
     }
 
     // Promise 13: "ISDIR if it is a directory", before what is wrong with A
     private static void entryForADirectory() {
         for (int[] b : new int[][] {{}, {HERE}, {UP}, {1}, {2}, {2, 1}, {1, 6}, {2, 3, 1}}) {
-            refuses(ISDIR, crowdedAt(a(), b), VirtualFiles::entry);
-            refuses(ISDIR, crowdedAt(a(9, 9), b), VirtualFiles::entry);
-            refuses(ISDIR, crowdedAt(a(3, 9), b), VirtualFiles::entry);
-            refuses(ISDIR, crowdedAt(a(3), b), VirtualFiles::entry);
-            refuses(ISDIR, crowdedAt(a(1, 9), b), VirtualFiles::entry);
+            Refusal.is(ISDIR, World.crowdedAt(a(), b), VirtualFiles::entry);
+            Refusal.is(ISDIR, World.crowdedAt(a(9, 9), b), VirtualFiles::entry);
+            Refusal.is(ISDIR, World.crowdedAt(a(3, 9), b), VirtualFiles::entry);
+            Refusal.is(ISDIR, World.crowdedAt(a(3), b), VirtualFiles::entry);
+            Refusal.is(ISDIR, World.crowdedAt(a(1, 9), b), VirtualFiles::entry);
         }
     }
 
@@ -195,39 +183,39 @@ public final class NameRefusalsTest implements Words {
     // Promise 13: "as for directory() up to READONLY", before CROSS, UNSUPPORTED and FULL
     private static void entryBeforeReadOnlyOrAcross() {
         for (int[] b : new int[][] {{3}, {5}, {1, 3}, {1, 5}, {2, 2}}) {
-            refuses(EXISTS, crowdedAt(a(2), b), VirtualFiles::entry);
-            refuses(EXISTS, crowdedAt(a(3), b), VirtualFiles::entry);
-            refuses(EXISTS, crowdedAt(a(1, 3), b), VirtualFiles::entry);
-            refuses(READONLY, crowdedAt(a(1, 9), b), VirtualFiles::entry);
-            refuses(READONLY, crowdedAt(a(1, 6, 9), b), VirtualFiles::entry);
+            Refusal.is(EXISTS, World.crowdedAt(a(2), b), VirtualFiles::entry);
+            Refusal.is(EXISTS, World.crowdedAt(a(3), b), VirtualFiles::entry);
+            Refusal.is(EXISTS, World.crowdedAt(a(1, 3), b), VirtualFiles::entry);
+            Refusal.is(READONLY, World.crowdedAt(a(1, 9), b), VirtualFiles::entry);
+            Refusal.is(READONLY, World.crowdedAt(a(1, 6, 9), b), VirtualFiles::entry);
         }
-        refuses(EXISTS, () -> Due.and(Due.at(World.crowdedTable(), 9), 3), VirtualFiles::entry);
-        refuses(READONLY, () -> Due.and(Due.at(World.crowdedTable(), 1, 7), 3), VirtualFiles::entry);
+        Refusal.is(EXISTS, () -> Due.and(Due.at(World.crowdedTable(), 9), 3), VirtualFiles::entry);
+        Refusal.is(READONLY, () -> Due.and(Due.at(World.crowdedTable(), 1, 7), 3), VirtualFiles::entry);
     }
 
     // Promise 13: "CROSS if B is on another disk", before UNSUPPORTED and FULL
     private static void entryAcrossDisks() {
-        refuses(CROSS, crowdedAt(a(9), 1, 3), VirtualFiles::entry);
-        refuses(CROSS, crowdedAt(a(9), 1, 5), VirtualFiles::entry);
-        refuses(CROSS, crowdedAt(a(6, 1), 1, 3), VirtualFiles::entry);
-        refuses(CROSS, () -> Due.and(Due.at(World.crowdedTable(), 7), 1, 3), VirtualFiles::entry);
-        refuses(CROSS, () -> Due.and(Due.at(World.crowded(LOG), 6, 1), 1, 3), VirtualFiles::entry);
+        Refusal.is(CROSS, World.crowdedAt(a(9), 1, 3), VirtualFiles::entry);
+        Refusal.is(CROSS, World.crowdedAt(a(9), 1, 5), VirtualFiles::entry);
+        Refusal.is(CROSS, World.crowdedAt(a(6, 1), 1, 3), VirtualFiles::entry);
+        Refusal.is(CROSS, () -> Due.and(Due.at(World.crowdedTable(), 7), 1, 3), VirtualFiles::entry);
+        Refusal.is(CROSS, () -> Due.and(Due.at(World.crowded(LOG), 6, 1), 1, 3), VirtualFiles::entry);
     }
 
     // Promise 13: "UNSUPPORTED if that is not NODES or B is a link", before FULL
     private static void entryUnsupported() {
-        refuses(UNSUPPORTED, () -> Due.and(Due.at(World.crowdedTable(), 7), 3), VirtualFiles::entry);
-        refuses(UNSUPPORTED, () -> Due.and(Due.at(World.crowdedTable(), 6, 7), 3), VirtualFiles::entry);
-        refuses(UNSUPPORTED, () -> Due.and(Due.at(World.crowded(LOG), 9), 3), VirtualFiles::entry);
-        refuses(UNSUPPORTED, () -> Due.and(Due.at(World.crowded(LOG), 6, 1), 5), VirtualFiles::entry);
-        refuses(UNSUPPORTED, crowdedAt(a(9), 5), VirtualFiles::entry);
-        refuses(UNSUPPORTED, crowdedAt(a(6, 1), 2, 3), VirtualFiles::entry);
+        Refusal.is(UNSUPPORTED, () -> Due.and(Due.at(World.crowdedTable(), 7), 3), VirtualFiles::entry);
+        Refusal.is(UNSUPPORTED, () -> Due.and(Due.at(World.crowdedTable(), 6, 7), 3), VirtualFiles::entry);
+        Refusal.is(UNSUPPORTED, () -> Due.and(Due.at(World.crowded(LOG), 9), 3), VirtualFiles::entry);
+        Refusal.is(UNSUPPORTED, () -> Due.and(Due.at(World.crowded(LOG), 6, 1), 5), VirtualFiles::entry);
+        Refusal.is(UNSUPPORTED, World.crowdedAt(a(9), 5), VirtualFiles::entry);
+        Refusal.is(UNSUPPORTED, World.crowdedAt(a(6, 1), 2, 3), VirtualFiles::entry);
     }
 
     // Promise 13: "FULL", which here is a seventh entry alone
     private static void entryInAFullDirectory() {
-        refuses(FULL, crowdedAt(a(9), 3), VirtualFiles::entry);
-        refuses(FULL, crowdedAt(a(HERE, 14), 2, 2), VirtualFiles::entry);
+        Refusal.is(FULL, World.crowdedAt(a(9), 3), VirtualFiles::entry);
+        Refusal.is(FULL, World.crowdedAt(a(HERE, 14), 2, 2), VirtualFiles::entry);
         VirtualFiles x = World.crowded();
         for (int n = 4; n <= 6; n++) {
             Due.is(OK, Due.and(Due.at(x, 2, n), 3).entry());
@@ -236,46 +224,45 @@ public final class NameRefusalsTest implements Words {
         Due.is(4, Due.at(x, 3).about(true, 2));
     }
 
+    /** What remove and prune refuse alike; "NOENT if there is no such entry" stands before READONLY. */
+    private static void takingAwayRefusals(ToLongFunction<VirtualFiles> call) {
+        badWithNothingMounted(call);
+        noPlaceOrNoWay(a(), call);
+        for (int[] path : new int[][] {{9}, {10}, {13}, {6, 1}, {1, 9}}) {
+            Refusal.is(NOENT, World.crowdedAt(path), call);
+        }
+    }
+
     // Promise 20: "BAD if nothing is mounted; INVALID if A has no place; what the way to its directory says, NOTDIR; NOENT"
     private static void removeRefusals() {
-        badWithNothingMounted(VirtualFiles::remove);
-        noPlaceOrNoWay(a(), VirtualFiles::remove);
-        refuses(NOENT, crowdedAt(9), VirtualFiles::remove);
-        refuses(NOENT, crowdedAt(6, 1), VirtualFiles::remove);
-        refuses(NOENT, crowdedAt(1, 9), VirtualFiles::remove);
-        refuses(NOENT, crowdedAt(10), VirtualFiles::remove);
+        takingAwayRefusals(VirtualFiles::remove);
     }
 
     // Promise 20: "ISDIR", before READONLY
     private static void removeDirectories() {
         for (int[] path : new int[][] {{1}, {2}, {2, 1}, {6}, {1, 2}, {1, 6}, {2, 3, 1}}) {
-            refuses(ISDIR, crowdedAt(path), VirtualFiles::remove);
+            Refusal.is(ISDIR, World.crowdedAt(path), VirtualFiles::remove);
         }
-        refuses(ISDIR, () -> Due.at(World.crowdedTable(), 13), VirtualFiles::remove);
+        Refusal.is(ISDIR, () -> Due.at(World.crowdedTable(), 13), VirtualFiles::remove);
     }
 
     // Promise 20: "READONLY"
     private static void removeReadOnly() {
         for (int[] path : new int[][] {{1, 3}, {1, 4}, {1, 5}, {1, 2, 2}, {1, 2, 3}}) {
-            refuses(READONLY, crowdedAt(path), VirtualFiles::remove);
+            Refusal.is(READONLY, World.crowdedAt(path), VirtualFiles::remove);
         }
-        refuses(READONLY, () -> Due.at(World.crowdedTable(), 1, 10), VirtualFiles::remove);
+        Refusal.is(READONLY, () -> Due.at(World.crowdedTable(), 1, 10), VirtualFiles::remove);
     }
 
     // Promise 21: "BAD, INVALID, what the way says, NOTDIR, NOENT likewise"
     private static void pruneRefusals() {
-        badWithNothingMounted(VirtualFiles::prune);
-        noPlaceOrNoWay(a(), VirtualFiles::prune);
-        refuses(NOENT, crowdedAt(9), VirtualFiles::prune);
-        refuses(NOENT, crowdedAt(6, 1), VirtualFiles::prune);
-        refuses(NOENT, crowdedAt(1, 9), VirtualFiles::prune);
-        refuses(NOENT, crowdedAt(13), VirtualFiles::prune);
+        takingAwayRefusals(VirtualFiles::prune);
     }
 
     // Promise 21: "NOTDIR if it is none", before READONLY; a link to a directory is none
     private static void pruneNoDirectory() {
         for (int[] path : new int[][] {{3}, {4}, {5}, {2, 2}, {2, 3}, {1, 3}, {1, 2, 3}}) {
-            refuses(NOTDIR, crowdedAt(path), VirtualFiles::prune);
+            Refusal.is(NOTDIR, World.crowdedAt(path), VirtualFiles::prune);
         }
     }
 
@@ -296,29 +283,29 @@ public final class NameRefusalsTest implements Words {
 
     // Promise 21: "BUSY if a disk is mounted on it or it is the current directory", before READONLY and NOTEMPTY
     private static void pruneMountedOrCurrent() {
-        refuses(BUSY, crowdedAt(1), VirtualFiles::prune);
-        refuses(BUSY, () -> Due.at(mountedOnNotEmpty(), 2), VirtualFiles::prune);
-        refuses(BUSY, () -> Due.at(mountedOnCopy(), 1, 2), VirtualFiles::prune);
-        refuses(BUSY, () -> Due.at(mountedOnCopy(), 1, 6), VirtualFiles::prune);
-        refuses(BUSY, () -> Due.at(World.crowdedWithin(6), 6), VirtualFiles::prune);
-        refuses(BUSY, () -> Due.at(World.crowdedWithin(6), HERE, UP, 6), VirtualFiles::prune);
-        refuses(BUSY, () -> Due.at(World.crowdedWithin(2), 2), VirtualFiles::prune);
-        refuses(BUSY, () -> Due.at(World.crowdedWithin(1, 6), 1, 6), VirtualFiles::prune);
-        refuses(BUSY, () -> Due.at(World.crowdedWithin(1, 2), 1, 2), VirtualFiles::prune);
+        Refusal.is(BUSY, World.crowdedAt(1), VirtualFiles::prune);
+        Refusal.is(BUSY, () -> Due.at(mountedOnNotEmpty(), 2), VirtualFiles::prune);
+        Refusal.is(BUSY, () -> Due.at(mountedOnCopy(), 1, 2), VirtualFiles::prune);
+        Refusal.is(BUSY, () -> Due.at(mountedOnCopy(), 1, 6), VirtualFiles::prune);
+        Refusal.is(BUSY, () -> Due.at(World.crowdedWithin(6), 6), VirtualFiles::prune);
+        Refusal.is(BUSY, () -> Due.at(World.crowdedWithin(6), HERE, UP, 6), VirtualFiles::prune);
+        Refusal.is(BUSY, () -> Due.at(World.crowdedWithin(2), 2), VirtualFiles::prune);
+        Refusal.is(BUSY, () -> Due.at(World.crowdedWithin(1, 6), 1, 6), VirtualFiles::prune);
+        Refusal.is(BUSY, () -> Due.at(World.crowdedWithin(1, 2), 1, 2), VirtualFiles::prune);
         // The one above the current directory is not it.
-        refuses(NOTEMPTY, () -> Due.at(World.crowdedWithin(2, 1), 2), VirtualFiles::prune);
+        Refusal.is(NOTEMPTY, () -> Due.at(World.crowdedWithin(2, 1), 2), VirtualFiles::prune);
     }
 
     // Promise 21: "READONLY", before NOTEMPTY
     private static void pruneReadOnly() {
-        refuses(READONLY, crowdedAt(1, 6), VirtualFiles::prune);
-        refuses(READONLY, crowdedAt(1, 2), VirtualFiles::prune);
-        refuses(READONLY, crowdedAt(1, 1), VirtualFiles::prune);
+        Refusal.is(READONLY, World.crowdedAt(1, 6), VirtualFiles::prune);
+        Refusal.is(READONLY, World.crowdedAt(1, 2), VirtualFiles::prune);
+        Refusal.is(READONLY, World.crowdedAt(1, 1), VirtualFiles::prune);
     }
 
     // Promise 21: "NOTEMPTY"
     private static void pruneNotEmpty() {
-        refuses(NOTEMPTY, crowdedAt(2), VirtualFiles::prune);
+        Refusal.is(NOTEMPTY, World.crowdedAt(2), VirtualFiles::prune);
         VirtualFiles x = World.crowded();
         Due.is(OK, Due.at(x, 2, 1).prune());
         Due.is(OK, Due.at(x, 2, 2).remove());
@@ -334,36 +321,36 @@ public final class NameRefusalsTest implements Words {
             for (int what = 0; what <= 4; what++) {
                 int wanted = what;
                 badWithNothingMounted(x -> x.about(follow, wanted));
-                refuses(NOENT, crowdedAt(9), x -> x.about(follow, wanted));
-                refuses(NOENT, crowdedAt(2, 9, UP), x -> x.about(follow, wanted));
-                refuses(NOTDIR, crowdedAt(3, UP), x -> x.about(follow, wanted));
-                refuses(NOTDIR, crowdedAt(5, 1), x -> x.about(follow, wanted));
-                refuses(LOOP, crowdedAt(4, 1), x -> x.about(follow, wanted));
+                Refusal.is(NOENT, World.crowdedAt(9), x -> x.about(follow, wanted));
+                Refusal.is(NOENT, World.crowdedAt(2, 9, UP), x -> x.about(follow, wanted));
+                Refusal.is(NOTDIR, World.crowdedAt(3, UP), x -> x.about(follow, wanted));
+                Refusal.is(NOTDIR, World.crowdedAt(5, 1), x -> x.about(follow, wanted));
+                Refusal.is(LOOP, World.crowdedAt(4, 1), x -> x.about(follow, wanted));
             }
             for (int what : new int[] {-1, 5, LEAST, GREATEST}) {
-                refuses(BAD, crowdedAt(2), x -> x.about(follow, what));
-                refuses(BAD, crowdedAt(9), x -> x.about(follow, what));
-                refuses(BAD, crowdedAt(3, 1), x -> x.about(follow, what));
+                Refusal.is(BAD, World.crowdedAt(2), x -> x.about(follow, what));
+                Refusal.is(BAD, World.crowdedAt(9), x -> x.about(follow, what));
+                Refusal.is(BAD, World.crowdedAt(3, 1), x -> x.about(follow, what));
             }
         }
-        refuses(LOOP, crowdedAt(4), x -> x.about(true, 0));
-        Due.is(3, crowdedAt(4).get().about(false, 0));
+        Refusal.is(LOOP, World.crowdedAt(4), x -> x.about(true, 0));
+        Due.is(3, World.crowdedAt(4).get().about(false, 0));
     }
 
     // Promise 24: "0 if there is none; BAD if nothing is mounted; what the way says; NOTDIR"
     private static void nameRefusals() {
         for (int k : new int[] {0, 5, 6, -1, LEAST, GREATEST}) {
             badWithNothingMounted(x -> x.name(k));
-            refuses(NOENT, crowdedAt(9), x -> x.name(k));
-            refuses(NOTDIR, crowdedAt(3, UP), x -> x.name(k));
-            refuses(LOOP, crowdedAt(4), x -> x.name(k));
-            refuses(NOTDIR, crowdedAt(3), x -> x.name(k));
-            refuses(NOTDIR, crowdedAt(5), x -> x.name(k));
-            refuses(0, crowdedAt(6), x -> x.name(k));
+            Refusal.is(NOENT, World.crowdedAt(9), x -> x.name(k));
+            Refusal.is(NOTDIR, World.crowdedAt(3, UP), x -> x.name(k));
+            Refusal.is(LOOP, World.crowdedAt(4), x -> x.name(k));
+            Refusal.is(NOTDIR, World.crowdedAt(3), x -> x.name(k));
+            Refusal.is(NOTDIR, World.crowdedAt(5), x -> x.name(k));
+            Refusal.is(0, World.crowdedAt(6), x -> x.name(k));
         }
         for (int k : new int[] {6, 7, 14, -1, LEAST, GREATEST}) {
-            refuses(0, crowdedAt(), x -> x.name(k));
+            Refusal.is(0, World.crowdedAt(), x -> x.name(k));
         }
-        Due.is(6, crowdedAt().get().name(5));
+        Due.is(6, World.crowdedAt().get().name(5));
     }
 }

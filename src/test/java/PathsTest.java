@@ -27,6 +27,7 @@ public final class PathsTest {
         Due.end();
     }
 
+    // "0 HERE (only the first one), 1..14 a name, 15 UP"
     private static void stepTakesWhatItMay() {
         for (int s = 0; s <= 15; s++) {
             VirtualFiles x = new VirtualFiles();
@@ -78,6 +79,7 @@ public final class PathsTest {
         return x.about(false, 1);
     }
 
+    // Promise 2: "Appends a step to path A, or (second) B."
     private static void stepKeepsDraftsApart() {
         VirtualFiles x = Due.mounted(NODES);
         Due.directories(x, 1);
@@ -91,6 +93,7 @@ public final class PathsTest {
         Due.yes(x.step(true, 0) || x.step(false, 4));
     }
 
+    // Promise 3: "Empties both drafts."
     private static void wipe() {
         VirtualFiles x = Due.mounted(NODES);
         Due.and(Due.at(x, 0, 1, 2, 3, 4), 0, 1, 2, 3, 4);
@@ -291,6 +294,7 @@ public final class PathsTest {
         Due.is(VirtualFiles.LOOP, Due.at(x, 5).open(1));
     }
 
+    // Promise 10: "The current directory becomes A (followed)."
     private static void enter() {
         VirtualFiles x = tree(NODES);
         Due.is(VirtualFiles.OK, Due.at(x, 1, 2).enter());
@@ -327,6 +331,7 @@ public final class PathsTest {
         Due.names(Due.at(x, HERE), 2);
     }
 
+    // Promise 23: "1 its size (a file's; a directory's entries; a link's steps); 2 how many entries it has (roots 0)"
     private static void aboutDirectories() {
         VirtualFiles x = Due.mounted(TABLE);
         Due.directories(x, 1, 2, 3, 4);
@@ -353,6 +358,8 @@ public final class PathsTest {
         Due.is(25, x.free(3));
     }
 
+    // Promise 23: "Of A (links followed or not): what 0 its kind: 1 directory, 2 file, 3 link",
+    // "3 the blocks it takes; 4 its disk"
     private static void aboutFilesAndLinks() {
         VirtualFiles x = tree(LOG);
         Due.is(VirtualFiles.OK, Due.and(Due.at(x, 6), HERE, 1, 2, 4).link());
@@ -385,6 +392,7 @@ public final class PathsTest {
         }
     }
 
+    // Promise 24: "The k-th name (0 the first) in directory A (followed)"
     private static void name() {
         VirtualFiles x = Due.mounted(NODES);
         Due.names(x);

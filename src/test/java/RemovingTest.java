@@ -14,6 +14,7 @@ public final class RemovingTest {
         Due.end();
     }
 
+    // Promise 20: "Takes away the entry of A (not followed), which must not be a directory."
     private static void remove() {
         for (int format = TABLE; format <= LOG; format++) {
             VirtualFiles x = Due.mounted(format);
@@ -111,6 +112,7 @@ public final class RemovingTest {
         Due.is(4, Due.at(x, 1).about(true, 1));
     }
 
+    // Promise 21: "Takes away the empty directory A (not followed)."
     private static void prune() {
         for (int format = TABLE; format <= LOG; format++) {
             VirtualFiles x = Due.mounted(format);

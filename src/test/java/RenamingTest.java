@@ -30,6 +30,7 @@ public final class RenamingTest {
         return steps;
     }
 
+    // Promise 22: "The entry of A (not followed) becomes that at the place of B."
     private static void toANewName() {
         for (int format = TABLE; format <= LOG; format++) {
             VirtualFiles x = Due.mounted(format);
@@ -236,6 +237,7 @@ public final class RenamingTest {
         Due.is(3, Due.at(x, 3).about(true, 2));
     }
 
+    // Promise 22: "the entry goes first"
     private static void ontoFiles() {
         for (int format = TABLE; format <= LOG; format++) {
             VirtualFiles x = Due.mounted(format);
@@ -319,6 +321,7 @@ public final class RenamingTest {
         Due.is(27, x.free(0));
     }
 
+    // Promise 22: "else if one of both is a directory and the other is not"
     private static void ontoAnotherKind() {
         VirtualFiles x = Due.mounted(NODES);
         Due.directories(x, 1);

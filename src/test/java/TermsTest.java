@@ -1,6 +1,5 @@
 import java.util.Arrays;
 import java.util.function.Supplier;
-import java.util.function.ToLongFunction;
 
 /** "Terms", on what a disk and a directory hold, on names, and on objects that are gone. */
 public final class TermsTest implements Words {
@@ -21,6 +20,8 @@ public final class TermsTest implements Words {
         equalNamesOfTheDirectorysOwnDisk();
         entriesForEachObject();
         sizesFromZeroToTwenty();
+        filesAreApart();
+        objectsAreApart();
         linksHaveUpToFiveSteps();
         goneWithTheLastEntry();
         notGoneWhileOpen();
@@ -28,10 +29,6 @@ public final class TermsTest implements Words {
         goneWhenReplaced();
         goneLeavesNothingBehind();
         Due.end();
-    }
-
-    private static void refuses(long error, Supplier<VirtualFiles> state, ToLongFunction<VirtualFiles> call) {
-        Refusal.is(error, state, call);
     }
 
     // "DISKS 0..3 are TABLE (0), NODES (1) or LOG (2)"
@@ -119,10 +116,10 @@ public final class TermsTest implements Words {
     private static void anEleventhObject() {
         for (int format = TABLE; format <= LOG; format++) {
             int f = format;
-            refuses(FULL, () -> Due.at(objects(f, 2, 9), 5), VirtualFiles::directory);
-            refuses(FULL, () -> Due.at(objects(f, 1, 9), 5), x -> x.open(1));
-            refuses(FULL, () -> Due.at(objects(f, 1, 9), 5), x -> x.open(3));
-            refuses(format == TABLE ? UNSUPPORTED : FULL, () -> Due.at(objects(f, 1, 9), 5), VirtualFiles::link);
+            Refusal.is(FULL, () -> Due.at(objects(f, 2, 9), 5), VirtualFiles::directory);
+            Refusal.is(FULL, () -> Due.at(objects(f, 1, 9), 5), x -> x.open(1));
+            Refusal.is(FULL, () -> Due.at(objects(f, 1, 9), 5), x -> x.open(3));
+            Refusal.is(format == TABLE ? UNSUPPORTED : FULL, () -> Due.at(objects(f, 1, 9), 5), VirtualFiles::link);
         }
     }
 
@@ -180,11 +177,11 @@ public final class TermsTest implements Words {
             int f = format;
             for (boolean below : new boolean[] {false, true}) {
                 Supplier<VirtualFiles> six = () -> Due.and(Due.at(entries(f, below, 6), in(below, 7)), in(below, 1));
-                refuses(FULL, six, VirtualFiles::directory);
-                refuses(FULL, six, x -> x.open(1));
-                refuses(FULL, six, x -> x.open(3));
-                refuses(format == TABLE ? UNSUPPORTED : FULL, six, VirtualFiles::link);
-                refuses(format == NODES ? FULL : UNSUPPORTED, six, VirtualFiles::entry);
+                Refusal.is(FULL, six, VirtualFiles::directory);
+                Refusal.is(FULL, six, x -> x.open(1));
+                Refusal.is(FULL, six, x -> x.open(3));
+                Refusal.is(format == TABLE ? UNSUPPORTED : FULL, six, VirtualFiles::link);
+                Refusal.is(format == NODES ? FULL : UNSUPPORTED, six, VirtualFiles::entry);
             }
         }
     }
@@ -197,7 +194,7 @@ public final class TermsTest implements Words {
                 Due.file(x, 0, 2);
                 return Due.and(Due.at(x, 2), 1, 7);
             };
-            refuses(FULL, fullBelow, VirtualFiles::rename);
+            Refusal.is(FULL, fullBelow, VirtualFiles::rename);
             VirtualFiles x = fullBelow.get();
             Due.is(OK, Due.and(Due.at(x, 1, 6), 1, 7).rename());
             Due.names(Due.at(x, 1), 1, 2, 3, 4, 5, 7);
@@ -364,6 +361,61 @@ public final class TermsTest implements Words {
         }
     }
 
+    // What is written to one file, or makes it longer or shorter, changes no other, on this disk or another.
+    private static void filesAreApart() {
+        for (int changed = 0; changed < 8; changed++) {
+            VirtualFiles x = Due.mounted(NODES);
+            Due.directories(x, 6);
+            Due.is(OK, Due.at(x, 6).mount(1));
+            int[][] files = {{1}, {2}, {3}, {4}, {6, 1}, {6, 2}, {6, 3}, {6, 4}};
+            for (int i = 0; i < files.length; i++) {
+                Due.is(0, Due.at(x, files[i]).open(1));
+                Due.is(OK, x.write(0, 100 + i));
+                Due.is(OK, x.resize(0, 20));
+                Due.is(OK, x.seek(0, 19));
+                Due.is(OK, x.write(0, 200 + i));
+                Due.is(OK, x.close(0));
+            }
+            Due.is(0, Due.at(x, files[changed]).open(2));
+            Due.is(OK, x.resize(0, 20));
+            Due.is(OK, x.close(0));
+            for (int i = 0; i < files.length; i++) {
+                Due.is(0, Due.at(x, files[i]).open(0));
+                Due.is(i == changed ? 0 : 100 + i, x.read(0));
+                Due.is(OK, x.seek(0, 19));
+                Due.is(i == changed ? 0 : 200 + i, x.read(0));
+                Due.is(0, x.read(0));
+                Due.is(OK, x.close(0));
+            }
+        }
+    }
+
+    // An entry in one directory, be its name the first or the last, stands in no other, whichever object that is.
+    private static void objectsAreApart() {
+        for (int top = 0; top < 4; top++) {
+            VirtualFiles x = new VirtualFiles();
+            Due.is(OK, x.mount(top));
+            int[][] paths = {{1}, {14}, {1, 1}, {1, 14}, {14, 1}, {14, 14}, {1, 1, 1}, {1, 1, 14}, {1, 1, 14, 14}};
+            for (int[] path : paths) {
+                Due.is(OK, Due.at(x, path).directory());
+            }
+            Due.is(FULL, Due.at(x, 2).directory());
+            Due.names(Due.at(x), 1, 14);
+            Due.names(Due.at(x, 1), 1, 14);
+            Due.names(Due.at(x, 14), 1, 14);
+            Due.names(Due.at(x, 1, 1), 1, 14);
+            Due.names(Due.at(x, 1, 14));
+            Due.names(Due.at(x, 14, 14));
+            Due.names(Due.at(x, 1, 1, 1));
+            Due.names(Due.at(x, 1, 1, 14), 14);
+            Due.names(Due.at(x, 1, 1, 14, 14));
+            Due.is(OK, Due.and(Due.at(x, 14, 14), 1, 1, 14, 14, 14).rename());
+            Due.names(Due.at(x, 1, 1, 14, 14), 14);
+            Due.names(Due.at(x, 1, 1, 14), 14);
+            Due.names(Due.at(x, 14), 1);
+        }
+    }
+
     // "A LINK (not on TABLE) has a path."
     private static void linksHaveUpToFiveSteps() {
         for (int format = NODES; format <= LOG; format++) {
@@ -386,7 +438,7 @@ public final class TermsTest implements Words {
             Due.file(y, 7, 1, 2, 3, 4, 5);
             Due.is(7, Due.at(y, 6).about(true, 1));
         }
-        refuses(UNSUPPORTED, () -> Due.and(Due.at(Due.mounted(TABLE), 1), 2), VirtualFiles::link);
+        Refusal.is(UNSUPPORTED, () -> Due.and(Due.at(Due.mounted(TABLE), 1), 2), VirtualFiles::link);
     }
 
     // "An object that has no entry any more is gone when no open file is it."

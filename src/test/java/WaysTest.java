@@ -25,6 +25,7 @@ public final class WaysTest implements Words {
         linkThatLeadsNowhere();
         fourLinksOneAfterAnother();
         fourLinksOneInAnother();
+        longestWay();
         linksToThemselves();
         linksOfEachPathCountAlone();
         lastLinkOfAPlaceIsNotFollowed();
@@ -414,6 +415,32 @@ public final class WaysTest implements Words {
                 Due.is(count <= 4 ? OK : LOOP, Due.at(x, 6, 2).directory());
                 Due.is(count <= 3 ? 1 : LOOP, Due.at(x, 6, UP, 6 + count - 1, UP, 1).about(true, 0));
             }
+        }
+    }
+
+    // Five steps, four of them links or leading to links of five steps each: every one of the 25 steps is gone.
+    private static void longestWay() {
+        for (int format = NODES; format <= LOG; format++) {
+            VirtualFiles x = Due.mounted(format);
+            link(x, at(1), UP, UP, UP, UP, 2);
+            link(x, at(2), HERE, UP, UP, UP, 3);
+            link(x, at(3), UP, UP, UP, UP, 4);
+            link(x, at(4), UP, UP, UP, UP, 5);
+            Due.file(x, 3, 5);
+            Due.is(2, Due.at(x, UP, UP, UP, UP, 1).about(true, 0));
+            Due.is(OK, Due.at(x, 2).remove());
+            link(x, at(2), UP, UP, UP, UP, 3);
+            Due.is(2, Due.at(x, UP, UP, UP, UP, 1).about(true, 0));
+            Due.is(3, Due.at(x, UP, UP, UP, UP, 1).about(true, 1));
+            Due.is(NOTDIR, Due.at(x, UP, UP, UP, 1, 6).about(true, 0));
+            Due.is(OK, Due.at(x, 5).remove());
+            Due.is(NOENT, Due.at(x, UP, UP, UP, UP, 1).about(true, 0));
+            Due.is(NOENT, Due.at(x, UP, UP, UP, 1, 6).about(true, 0));
+            Due.is(OK, Due.at(x, 5).directory());
+            Due.is(NOENT, Due.at(x, UP, UP, UP, 1, 6).about(true, 0));
+            Due.file(x, 4, 5, 6);
+            Due.is(4, Due.at(x, UP, UP, UP, 1, 6).about(true, 1));
+            Due.is(4, Due.at(x, 1, UP, UP, 5, 6).about(true, 1));
         }
     }
 

@@ -1,3 +1,5 @@
+import java.util.function.Supplier;
+
 /** States with which several tests begin. */
 final class World implements Words {
     private World() {
@@ -26,6 +28,14 @@ final class World implements Words {
 
     static VirtualFiles crowded() {
         return crowded(NODES);
+    }
+
+    static Supplier<VirtualFiles> crowdedAt(int... a) {
+        return () -> Due.at(crowded(), a);
+    }
+
+    static Supplier<VirtualFiles> crowdedAt(int[] a, int... b) {
+        return () -> Due.and(Due.at(crowded(), a), b);
     }
 
     /** The same for a TABLE disk, without its links: the files 4 and 5, and 3 in directory 2, stand in their place. */
