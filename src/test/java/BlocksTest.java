@@ -395,9 +395,10 @@ public final class BlocksTest implements Words {
     private static VirtualFiles withDead(int left) {
         VirtualFiles x = Due.mounted(LOG);
         Due.is(0, Due.at(x, 1).open(1));
-        while (x.free(0) > left) {
-            write(x, 0, 0, x.free(0));
+        for (int i = left; i < 31; i++) {
+            write(x, 0, 0, i);
         }
+        Due.is(left, x.free(0));
         return x;
     }
 

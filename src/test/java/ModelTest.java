@@ -3,7 +3,8 @@ import java.util.List;
 
 /** Long runs of calls, the same ones every time, each answered by VirtualFiles as by Model. */
 public final class ModelTest {
-    private static final int RUNS = 10000, CALLS = 512;
+    // One turn of a run drafts, acts and looks in at most forty calls.
+    private static final int RUNS = 10000, CALLS = 512, CALLS_OF_ONE_TURN = 40;
 
     private final List<String> told = new ArrayList<>();
     // Paths at which something was made, so that most calls find something.
@@ -67,7 +68,7 @@ public final class ModelTest {
         if (below(2) == 0) {
             crowd();
         }
-        while (told.size() < CALLS - 20 && !wrong) {
+        while (told.size() <= CALLS - CALLS_OF_ONE_TURN && !wrong) {
             if (below(3) > 0) {
                 draft();
             }
@@ -119,11 +120,14 @@ public final class ModelTest {
         if (below(8) == 0) {
             path.add(0, 0);
         }
+        List<Integer> taken = new ArrayList<>();
         for (int s : path) {
-            step(second, s);
+            if (step(second, s)) {
+                taken.add(s);
+            }
         }
         if (!second) {
-            drafted = path;
+            drafted = taken;
         }
     }
 
@@ -136,8 +140,10 @@ public final class ModelTest {
         }
     }
 
-    private void step(boolean second, int s) {
-        due("step(" + second + ", " + s + ")", x.step(second, s) ? 1 : 0, model.step(second, s) ? 1 : 0);
+    private boolean step(boolean second, int s) {
+        boolean taken = x.step(second, s);
+        due("step(" + second + ", " + s + ")", taken ? 1 : 0, model.step(second, s) ? 1 : 0);
+        return taken;
     }
 
     private void remember(boolean made) {

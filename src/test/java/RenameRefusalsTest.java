@@ -198,6 +198,12 @@ public final class RenameRefusalsTest implements Words {
     private static void ontoNotEmpty() {
         refuses(NOTEMPTY, a(6), 2);
         refuses(NOTEMPTY, a(2, 1), 2);
+        VirtualFiles y = World.crowded();
+        Due.is(OK, Due.at(y, 2, 1).prune());
+        Due.is(OK, Due.at(y, 2, 2).remove());
+        Due.is(NOTEMPTY, Due.and(Due.at(y, 6), 2).rename());
+        Due.is(OK, Due.at(y, 2, 3).remove());
+        Due.is(OK, Due.and(Due.at(y, 6), 2).rename());
         VirtualFiles x = World.crowded();
         Due.is(OK, Due.and(Due.at(x, 2), 6).rename());
         Due.names(Due.at(x, 6), 1, 2, 3);

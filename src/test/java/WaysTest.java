@@ -103,21 +103,21 @@ public final class WaysTest implements Words {
 
     // "Each further step goes on from the directory D that has been reached (NOTDIR if it is none)"
     private static void noDirectoryReached() {
-        VirtualFiles x = deep(NODES);
-        Due.file(x, 1, 6);
-        link(x, at(7), 6);
-        link(x, at(8), 6, UP);
-        for (boolean follow : new boolean[] {false, true}) {
-            for (int s = 1; s <= 15; s++) {
+        for (int s = 1; s <= 15; s++) {
+            VirtualFiles x = deep(NODES);
+            Due.file(x, 1, 6);
+            link(x, at(7), 6);
+            link(x, at(8), 6, UP);
+            for (boolean follow : new boolean[] {false, true}) {
                 Due.is(NOTDIR, Due.at(x, 6, s).about(follow, 0));
                 Due.is(NOTDIR, Due.at(x, 7, s).about(follow, 0));
                 Due.is(NOTDIR, Due.at(x, HERE, 6, s, UP).about(follow, 0));
                 Due.is(NOTDIR, Due.at(x, 8, s).about(follow, 0));
             }
+            Due.is(NOTDIR, Due.at(x, 8).about(true, 0));
+            Due.is(3, Due.at(x, 8).about(false, 0));
+            Due.is(2, Due.at(x, 6).about(false, 0));
         }
-        Due.is(NOTDIR, Due.at(x, 8).about(true, 0));
-        Due.is(3, Due.at(x, 8).about(false, 0));
-        Due.is(2, Due.at(x, 6).about(false, 0));
     }
 
     // "UP to the directory that has an entry for D"
