@@ -17,10 +17,12 @@ public final class DisksTest {
         unmountRefuses();
         packCopies();
         packKeepsHolesAndShares();
+        packOfAnEmptyDisk();
         packRefuses();
         packedDisksRefuse();
         packedDisksAreRead();
         sync();
+        deadBlocksStayWithTheirDisk();
         free();
         Due.end();
     }
@@ -346,6 +348,26 @@ public final class DisksTest {
         Due.is(0, x.sync(2));
     }
 
+    private static void packOfAnEmptyDisk() {
+        for (int format = TABLE; format <= LOG; format++) {
+            VirtualFiles x = Due.mounted(TABLE);
+            Due.directories(x, 1);
+            Due.is(VirtualFiles.OK, x.make(2, format));
+            Due.is(VirtualFiles.OK, x.pack(2, 3));
+            Due.is(31, x.free(3));
+            Due.is(VirtualFiles.OK, Due.at(x, 1).mount(3));
+            Due.names(x);
+            Due.is(VirtualFiles.READONLY, Due.at(x, 1, 1).directory());
+            Due.is(VirtualFiles.READONLY, Due.at(x, 1, 1).link());
+            Due.is(VirtualFiles.READONLY, Due.at(x, 1, 1).open(1));
+            // What it is a copy of may be written.
+            Due.is(VirtualFiles.OK, x.unmount(3));
+            Due.is(VirtualFiles.OK, Due.at(x, 1).mount(2));
+            Due.is(VirtualFiles.OK, Due.at(x, 1, 1).directory());
+            Due.is(31, x.free(3));
+        }
+    }
+
     private static void packRefuses() {
         VirtualFiles x = Due.mounted(NODES);
         Due.directories(x, 1);
@@ -463,6 +485,26 @@ public final class DisksTest {
         Due.is(VirtualFiles.OK, Due.at(x, 2).prune());
         Due.is(0, x.sync(0));
         Due.is(31, x.free(0));
+    }
+
+    private static void deadBlocksStayWithTheirDisk() {
+        VirtualFiles x = Due.mounted(TABLE);
+        Due.directories(x, 1, 2);
+        Due.is(VirtualFiles.OK, x.make(1, LOG));
+        Due.is(VirtualFiles.OK, Due.at(x, 1).mount(1));
+        Due.file(x, 4, 1, 1);
+        Due.is(VirtualFiles.OK, x.unmount(1));
+        Due.is(27, x.free(1));
+        Due.is(VirtualFiles.OK, Due.at(x, 2).mount(1));
+        Due.is(27, x.free(1));
+        Due.is(VirtualFiles.OK, x.pack(1, 3));
+        Due.is(30, x.free(3));
+        Due.is(0, x.sync(3));
+        Due.is(27, x.free(1));
+        Due.is(VirtualFiles.OK, x.unmount(1));
+        Due.is(3, x.sync(1));
+        Due.is(0, x.sync(1));
+        Due.is(30, x.free(1));
     }
 
     // Promise 9: "How many blocks of disk d are free"

@@ -13,6 +13,7 @@ public final class FilesTest {
         close();
         closeEndsWhatIsRemoved();
         read();
+        handlesHaveTheirOwnPositions();
         readRefuses();
         write();
         writeAtTheEnd();
@@ -253,6 +254,30 @@ public final class FilesTest {
         Due.is(VirtualFiles.OK, x.seek(1, 1));
         Due.is(-13, x.read(1));
         Due.is(0, x.read(1));
+    }
+
+    private static void handlesHaveTheirOwnPositions() {
+        for (int first = 0; first <= 1; first++) {
+            for (int second = 0; second <= 1; second++) {
+                VirtualFiles x = Due.mounted(LOG);
+                Due.file(x, 6, 1);
+                Due.is(0, Due.at(x, 1).open(first));
+                Due.is(1, Due.at(x, 1).open(second));
+                Due.is(1, x.read(0));
+                Due.is(2, x.read(0));
+                Due.is(1, x.read(1));
+                Due.is(VirtualFiles.OK, x.seek(0, 4));
+                Due.is(2, x.read(1));
+                Due.is(5, x.read(0));
+                Due.is(first == 0 ? VirtualFiles.BAD : VirtualFiles.OK, x.write(0, -6));
+                Due.is(3, x.read(1));
+                Due.is(first == 0 ? 6 : 0, x.read(0));
+                Due.is(VirtualFiles.OK, x.close(1));
+                Due.is(1, Due.at(x, 1).open(second));
+                Due.is(1, x.read(1));
+                Due.is(0, x.read(0));
+            }
+        }
     }
 
     // Promise 16: "BAD (as a long, like all these)"

@@ -4,7 +4,7 @@ import java.util.List;
 /** Long runs of calls, the same ones every time, each answered by VirtualFiles as by Model. */
 public final class ModelTest {
     // One turn of a run drafts, acts and looks in at most forty calls.
-    private static final int RUNS = 10000, CALLS = 512, CALLS_OF_ONE_TURN = 40;
+    private static final int RUNS = 30000, CALLS = 512, CALLS_OF_ONE_TURN = 40;
 
     private final List<String> told = new ArrayList<>();
     // Paths at which something was made, so that most calls find something.
@@ -14,6 +14,7 @@ public final class ModelTest {
     private final Model model = new Model();
     private final int names;
     private final int rarity;
+    private final int[] weights = {1, 3, 1, 1, 1, 1, 3, 1, 1, 7};
     private long state;
     private boolean wrong = false;
 
@@ -21,6 +22,10 @@ public final class ModelTest {
         state = run * 0x9E3779B97F4A7C15L + 1;
         names = 2 + below(5);
         rarity = 10 + below(60);
+        for (int i = 0; i < weights.length; i++) {
+            weights[i] *= below(4) == 0 ? 0 : 1 + below(6);
+        }
+        weights[1]++;
     }
 
     public static void main(String[] args) {
@@ -175,19 +180,34 @@ public final class ModelTest {
         due("mount(" + d + ")", x.mount(d), model.mount(d));
     }
 
+    /** Each run does some things often and others never, so that rare states are reached too. */
     private void act() {
-        switch (below(20)) {
+        int picked = below(sum(weights));
+        int action = 0;
+        while (picked >= weights[action]) {
+            picked -= weights[action];
+            action++;
+        }
+        switch (action) {
             case 0: actOnDisk(); break;
-            case 1: case 2: case 3: makeDirectory(); break;
-            case 4: makeLink(); break;
-            case 5: due("entry()", x.entry(), model.entry()); break;
-            case 6: due("remove()", x.remove(), model.remove()); break;
-            case 7: due("prune()", x.prune(), model.prune()); break;
-            case 8: case 9: case 10: due("rename()", x.rename(), model.rename()); break;
-            case 11: due("enter()", x.enter(), model.enter()); break;
-            case 12: mountDisk(disk()); break;
+            case 1: makeDirectory(); break;
+            case 2: makeLink(); break;
+            case 3: due("entry()", x.entry(), model.entry()); break;
+            case 4: due("remove()", x.remove(), model.remove()); break;
+            case 5: due("prune()", x.prune(), model.prune()); break;
+            case 6: due("rename()", x.rename(), model.rename()); break;
+            case 7: due("enter()", x.enter(), model.enter()); break;
+            case 8: mountDisk(disk()); break;
             default: actOnFile(); break;
         }
+    }
+
+    private static int sum(int[] numbers) {
+        int sum = 0;
+        for (int n : numbers) {
+            sum += n;
+        }
+        return sum;
     }
 
     private void makeDirectory() {
@@ -242,7 +262,7 @@ public final class ModelTest {
 
     private void writeOn(int h) {
         for (int i = 1 + below(4); i > 0; i--) {
-            int v = below(1000) - 500;
+            int v = (below(1 << 16) << 16) + below(1 << 16);
             due("write(" + h + ", " + v + ")", x.write(h, v), model.write(h, v));
         }
     }
