@@ -8,21 +8,21 @@ final class Blocks implements Words {
         VirtualFiles x = Due.mounted(format);
         Due.directories(x, 1);
         for (int n = 1; n <= 6; n++) {
-            take(x, left, 1, n);
+            take(x, 0, left, 1, n);
         }
-        take(x, left, 2);
+        take(x, 0, left, 2);
         Due.is(left, x.free(0));
         Due.is(0, x.sync(0));
         return x;
     }
 
-    /** Begins a file and writes into parts of it until it takes five blocks or only so many are left. */
-    static void take(VirtualFiles x, int left, int... path) {
-        if (x.free(0) <= left) {
+    /** Begins a file of disk d and writes into its parts until it takes five blocks or only so many are left. */
+    static void take(VirtualFiles x, int d, int left, int... path) {
+        if (x.free(d) <= left) {
             return;
         }
         int h = Due.at(x, path).open(1);
-        for (int b = 0; b < 5 && x.free(0) > left; b++) {
+        for (int b = 0; b < 5 && x.free(d) > left; b++) {
             Due.is(OK, x.seek(h, 4 * b));
             Due.is(OK, x.write(h, b + 1));
         }

@@ -411,7 +411,7 @@ public final class BlocksTest implements Words {
         VirtualFiles x = Due.mounted(TABLE);
         Due.directories(x, 1);
         for (int[] path : new int[][] {{1, 1}, {1, 2}, {1, 3}, {2}, {3}, {4}}) {
-            Blocks.take(x, left, path);
+            Blocks.take(x, 0, left, path);
         }
         Due.is(4, Due.at(x).about(true, 1));
         Due.is(left, x.free(0));

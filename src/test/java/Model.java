@@ -258,6 +258,12 @@ final class Model {
         return new End(at);
     }
 
+    /** The names in the directory that a path reaches (followed); none if it reaches no directory. */
+    List<Integer> namesAt(List<Integer> path) {
+        End end = top == null ? new End(VirtualFiles.BAD) : way(path, true).orNotDirectory();
+        return end.thing == null ? List.of() : new ArrayList<>(end.thing.entries.keySet());
+    }
+
     private Thing above(Thing directory) {
         Thing at = directory;
         while (at == at.disk.root) {

@@ -1,15 +1,51 @@
 import java.util.ArrayList;
 import java.util.List;
+import java.util.Map;
+import java.util.TreeMap;
 
-/** Long runs of calls, the same ones every time, each answered by VirtualFiles as by Model. */
-public final class ModelTest {
-    // One turn of a run drafts, acts and looks in at most forty calls.
-    private static final int RUNS = 30000, CALLS = 512, CALLS_OF_ONE_TURN = 40;
+/**
+ * Long runs of calls, the same ones every time, each answered by VirtualFiles as by Model. The answers are counted, since
+ * runs that never meet an error say nothing about it.
+ */
+public final class ModelTest implements Words {
+    // One turn of a run drafts, acts and looks in at most fifty calls.
+    private static final int RUNS = 30000, CALLS = 512, CALLS_OF_ONE_TURN = 50, OFTEN_ENOUGH = 50;
+
+    /** The names of the answers 0, -1, -2, .. */
+    private static final String[] WORDS = {
+        "OK", "NOENT", "NOTDIR", "ISDIR", "EXISTS", "LOOP", "READONLY", "FULL", "BUSY", "UNSUPPORTED", "NOTEMPTY", "CROSS",
+        "INVALID", "BAD"};
+
+    private static final String WAY = " NOENT NOTDIR LOOP";
+    private static final String PLACE = " BAD INVALID" + WAY;
+
+    /** What each call may be refused with, by the document. */
+    private static final Map<String, String> REFUSALS = Map.ofEntries(
+        Map.entry("make", "BAD BUSY"),
+        Map.entry("mount", "BAD BUSY" + WAY),
+        Map.entry("unmount", "BAD BUSY"),
+        Map.entry("pack", "BAD BUSY"),
+        Map.entry("sync", "BAD"),
+        Map.entry("free", "BAD"),
+        Map.entry("enter", "BAD" + WAY),
+        Map.entry("directory", "EXISTS READONLY FULL" + PLACE),
+        Map.entry("link", "EXISTS READONLY UNSUPPORTED FULL" + PLACE),
+        Map.entry("entry", "ISDIR EXISTS READONLY CROSS UNSUPPORTED FULL" + PLACE),
+        Map.entry("open", "BAD READONLY BUSY FULL ISDIR" + WAY),
+        Map.entry("close", "BAD"),
+        Map.entry("read", "BAD"),
+        Map.entry("write", "BAD FULL"),
+        Map.entry("seek", "BAD"),
+        Map.entry("resize", "BAD FULL"),
+        Map.entry("remove", "ISDIR READONLY" + PLACE),
+        Map.entry("prune", "BUSY READONLY NOTEMPTY" + PLACE),
+        Map.entry("rename", "CROSS READONLY BUSY ISDIR NOTEMPTY FULL" + PLACE),
+        Map.entry("about", "BAD" + WAY),
+        Map.entry("name", "BAD" + WAY));
+
+    private static final Map<String, Integer> ANSWERS = new TreeMap<>();
 
     private final List<String> told = new ArrayList<>();
-    // Paths at which something was made, so that most calls find something.
-    private final List<List<Integer>> known = new ArrayList<>();
-    private List<Integer> drafted = new ArrayList<>();
     private final VirtualFiles x = new VirtualFiles();
     private final Model model = new Model();
     private final int names;
@@ -20,7 +56,7 @@ public final class ModelTest {
 
     private ModelTest(int run) {
         state = run * 0x9E3779B97F4A7C15L + 1;
-        names = 2 + below(5);
+        names = 2 + below(13);
         rarity = 10 + below(60);
         for (int i = 0; i < weights.length; i++) {
             weights[i] *= below(4) == 0 ? 0 : 1 + below(6);
@@ -39,10 +75,26 @@ public final class ModelTest {
                 test.told.forEach(call -> System.out.println("  " + call));
             }
         }
+        boolean met = wrongRuns == 0 && refusalsWereMet();
         System.out.println(wrongRuns == 0 ? RUNS + " runs are as due" : "runs are not as due");
-        if (wrongRuns != 0) {
+        if (wrongRuns != 0 || !met) {
             System.exit(1);
         }
+    }
+
+    private static boolean refusalsWereMet() {
+        boolean met = true;
+        for (Map.Entry<String, String> refusals : REFUSALS.entrySet()) {
+            for (String refusal : (refusals.getValue() + " OK").split(" ")) {
+                String answer = refusals.getKey() + " " + refusal;
+                int times = ANSWERS.getOrDefault(answer, 0);
+                if (times < OFTEN_ENOUGH) {
+                    System.out.println("too rare to tell anything: " + answer + ", " + times + " times");
+                    met = false;
+                }
+            }
+        }
+        return met;
     }
 
     /** The next of a row of numbers that the number of the run alone decides. */
@@ -58,6 +110,9 @@ public final class ModelTest {
     private void due(String call, long got, long want) {
         if (!wrong) {
             told.add(call + " -> " + got);
+            String method = call.substring(0, call.indexOf('('));
+            String answer = got >= 0 || got < BAD ? WORDS[0] : WORDS[(int) -got];
+            ANSWERS.merge(method + " " + answer, 1, Integer::sum);
             if (got != want) {
                 wrong = true;
                 told.add("due is " + want);
@@ -69,71 +124,134 @@ public final class ModelTest {
         for (int d = 0; d < 4; d++) {
             makeDisk(d, below(3));
         }
-        mountDisk(below(4));
+        if (below(8) == 0) {
+            turn();
+        }
+        int disk = below(4);
+        mountDisk(disk);
+        List<Integer> root = List.of();
+        // What a disk takes must not be told by the disk at the top, which mostly has another format.
         if (below(2) == 0) {
-            crowd();
+            root = List.of(14);
+            disk = (disk + 1) % 4;
+            mountBelow(disk, root);
+        }
+        if (below(2) == 0) {
+            crowd(root);
+        }
+        if (below(4) == 0) {
+            mountCopy(disk);
         }
         while (told.size() <= CALLS - CALLS_OF_ONE_TURN && !wrong) {
-            if (below(3) > 0) {
-                draft();
-            }
-            act();
-            if (below(4) == 0) {
-                look();
-            }
+            turn();
         }
     }
 
-    /** Takes most blocks of the top first, since chance alone seldom fills a disk. */
-    private void crowd() {
-        for (int n = 1; n <= 3 + below(4); n++) {
+    private void turn() {
+        if (below(3) > 0) {
+            draftBoth();
+        }
+        act();
+        if (below(4) == 0) {
+            look();
+        }
+    }
+
+    private void mountBelow(int d, List<Integer> path) {
+        draft(false, path);
+        due("directory()", x.directory(), model.directory());
+        mountDisk(d);
+        if (below(2) == 0) {
+            due("enter()", x.enter(), model.enter());
+        }
+    }
+
+    /** Takes most blocks of a disk first, since chance alone seldom fills a disk or a directory. */
+    private void crowd(List<Integer> root) {
+        int inside = below(3) == 0 ? 0 : 4 + below(3);
+        List<Integer> directory = with(root, 1);
+        if (inside > 0) {
+            draft(false, directory);
+            due("directory()", x.directory(), model.directory());
+        }
+        for (int n = 2; n < 2 + inside; n++) {
+            crowdFile(with(directory, n));
+        }
+        for (int n = 2 + below(5); n < 7; n++) {
+            crowdFile(with(root, n));
+        }
+    }
+
+    private static List<Integer> with(List<Integer> path, int name) {
+        List<Integer> longer = new ArrayList<>(path);
+        longer.add(name);
+        return longer;
+    }
+
+    private void crowdFile(List<Integer> path) {
+        draft(false, path);
+        int h = openFile(1);
+        if (below(4) > 0) {
+            writeParts(h);
+        }
+        if (below(3) > 0) {
+            due("close(" + h + ")", x.close(h), model.close(h));
+        }
+    }
+
+    /** A copy with something on it is read-only and stands in the tree, which chance alone seldom comes to. */
+    private void mountCopy(int d) {
+        int copy = (d + 1) % 4;
+        for (int h = 0; h < 5; h++) {
+            due("close(" + h + ")", x.close(h), model.close(h));
+        }
+        due("pack(" + d + ", " + copy + ")", x.pack(d, copy), model.pack(d, copy));
+        mountBelow(copy, List.of(13));
+    }
+
+    private void draft(boolean second, List<Integer> path) {
+        if (!second) {
             x.wipe();
             model.wipe();
             told.add("wipe()");
-            drafted = List.of(n);
-            step(false, n);
-            int h = openFile(1);
-            writeParts(h);
-            if (below(4) > 0) {
-                due("close(" + h + ")", x.close(h), model.close(h));
-            }
+        }
+        for (int s : path) {
+            due("step(" + second + ", " + s + ")", x.step(second, s) ? 1 : 0, model.step(second, s) ? 1 : 0);
         }
     }
 
-    private void draft() {
-        x.wipe();
-        model.wipe();
-        told.add("wipe()");
-        draft(false);
+    /** Half of the time one path leads to something and the other on to a further name, as most that moves names needs. */
+    private void draftBoth() {
+        int plan = below(4);
+        draft(false, plan > 1 ? anyPath() : pathDown(plan));
         if (below(4) > 0) {
-            draft(true);
+            draft(true, plan > 1 ? anyPath() : pathDown(1 - plan));
         }
     }
 
-    private void draft(boolean second) {
+    private List<Integer> anyPath() {
+        return pathDown(rarely() ? below(7) : below(3) % 2);
+    }
+
+    /** Goes down names that are there, so that most calls find something, and then some further steps. */
+    private List<Integer> pathDown(int further) {
         List<Integer> path = new ArrayList<>();
-        if (!known.isEmpty() && below(4) > 0) {
-            path.addAll(known.get(below(known.size())));
-        }
-        int further = path.isEmpty() ? 1 + below(2) : below(3) % 2;
-        if (rarely()) {
-            further = below(7);
-        }
-        for (int i = 0; i < further; i++) {
-            path.add(anyStep());
+        if (below(3) == 0) {
+            path.add(0);
         }
         if (below(8) == 0) {
-            path.add(0, 0);
+            path.add(15);
         }
-        List<Integer> taken = new ArrayList<>();
-        for (int s : path) {
-            if (step(second, s)) {
-                taken.add(s);
+        for (int down = further == 0 ? 1 + below(4) : below(4); down > 0; down--) {
+            List<Integer> there = model.namesAt(path);
+            if (!there.isEmpty()) {
+                path.add(there.get(below(there.size())));
             }
         }
-        if (!second) {
-            drafted = taken;
+        for (int i = path.isEmpty() ? -1 : 0; i < further; i++) {
+            path.add(anyStep());
         }
+        return path;
     }
 
     private int anyStep() {
@@ -142,21 +260,6 @@ public final class ModelTest {
             case 0: return 15;
             case 1: return 1 + (s + 6) % 14;
             default: return rarely() ? below(18) - 1 : s;
-        }
-    }
-
-    private boolean step(boolean second, int s) {
-        boolean taken = x.step(second, s);
-        due("step(" + second + ", " + s + ")", taken ? 1 : 0, model.step(second, s) ? 1 : 0);
-        return taken;
-    }
-
-    private void remember(boolean made) {
-        if (made) {
-            known.add(drafted);
-        }
-        if (known.size() > 12) {
-            known.remove(below(known.size()));
         }
     }
 
@@ -190,9 +293,9 @@ public final class ModelTest {
         }
         switch (action) {
             case 0: actOnDisk(); break;
-            case 1: makeDirectory(); break;
-            case 2: makeLink(); break;
-            case 3: due("entry()", x.entry(), model.entry()); break;
+            case 1: due("directory()", x.directory(), model.directory()); break;
+            case 2: due("link()", x.link(), model.link()); break;
+            case 3: actOnEntries(); break;
             case 4: due("remove()", x.remove(), model.remove()); break;
             case 5: due("prune()", x.prune(), model.prune()); break;
             case 6: due("rename()", x.rename(), model.rename()); break;
@@ -210,16 +313,12 @@ public final class ModelTest {
         return sum;
     }
 
-    private void makeDirectory() {
-        int answer = x.directory();
-        due("directory()", answer, model.directory());
-        remember(answer == VirtualFiles.OK);
-    }
-
-    private void makeLink() {
-        int answer = x.link();
-        due("link()", answer, model.link());
-        remember(answer == VirtualFiles.OK);
+    private void actOnEntries() {
+        if (below(2) == 0) {
+            draft(false, pathDown(1));
+            draft(true, pathDown(0));
+        }
+        due("entry()", x.entry(), model.entry());
     }
 
     private void actOnDisk() {
@@ -250,7 +349,6 @@ public final class ModelTest {
     private int openFile(int how) {
         int answer = x.open(how);
         due("open(" + how + ")", answer, model.open(how));
-        remember(answer >= 0);
         return answer;
     }
 
